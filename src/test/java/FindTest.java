@@ -10,6 +10,7 @@ public final class FindTest {
         meanings();
         flag();
         wrongPlaces();
+        theRowEndsNoExpression();
         sizes();
         theGreatestPrograms();
         asJavaFinds();
@@ -102,6 +103,19 @@ public final class FindTest {
         for (int i = 0; i < wrong.length; i++) {
             find(wrong[i], "", false, -2 - places[i]);
         }
+    }
+
+    /** What stands behind the expression on the tape is none of it. */
+    private static void theRowEndsNoExpression() {
+        String[] soon = {"(", "(a", "a{", "a{1", "a{1,", "a{1,2", "[", "[^", "[a", "[a-", "[a\\", "\\"};
+        String[] rows = {")", ")", "1}", "}", "2}", "}", "a]", "a]", "-b]", "b]", "d]", "d"};
+        for (int i = 0; i < soon.length; i++) {
+            find(soon[i], rows[i], false, -2 - soon[i].length());
+        }
+        find("a", "*b", false, 0);
+        find("ab", "?a", false, 0);
+        find("a", "{0}", false, 0);
+        find("a", "\u0061", false, 1);
     }
 
     private static void sizes() {

@@ -157,6 +157,9 @@ public final class LineTest {
         Desk.due("score of 1000", desk.line("score A 1000"), -2);
         Desk.due("priority", desk.line("priority A -99"), 0);
         Desk.due("priority of 100", desk.line("priority A 100"), -2);
+        Desk.due("priority of -100", desk.line("priority A -100"), -2);
+        Desk.due("priority of 99", desk.line("priority A 99"), 0);
+        Desk.due("score of -1000", desk.line("score A -1000"), -2);
         Desk.due("bayes", desk.line("bayes B 999 1000"), 0);
         Desk.due("bayes of 1001", desk.line("bayes C 999 1001"), -2);
         Desk.due("bayes of equals", desk.line("bayes C 5 5"), -2);

@@ -120,6 +120,9 @@ public final class MessageTest {
         for (String type : ascii) {
             text("\ufffd\ufffd\n", e, TYPE, type);
         }
+        for (String type : new String[] {"x+y", "x-y", "x.y", "x_y", "1"}) {
+            text("\n\u00e9\n", "--q\n\n--q\nContent-Type: text/plain; " + type + "=z; charset=utf-8\n\n" + e, TYPE, "Multipart/" + type + "; boundary=q");
+        }
         text("", "x", TYPE, "text/rtf");
         text("", "x", TYPE, "application/plain");
         text("x\n", "x", TYPE, "text/plain", TYPE, "image/png");
@@ -192,6 +195,14 @@ public final class MessageTest {
         Desk.due("text", desk.text(0), "");
         desk = judged("--a\nContent-Type: multipart/x; boundary=i\n\n--i\n\none\n--a\n\ntwo\n--i\n\nthree\n--a--\n", TYPE, "multipart/x; boundary=a");
         Desk.due("by the outer one's own lines", desk.text(0), "one\ntwo\n--i\nthree\n");
+        body.setLength(0);
+        for (int depth = 0; depth < 5; depth++) {
+            body.append("--b").append(depth).append("\nContent-Type: multipart/x; boundary=b").append(depth + 1).append("\n\n");
+        }
+        body.append("--b5\n\ntoo deep\n--b5--\n--b4--\n--b3--\n--b2--\n--b1--\n--b0--\n");
+        Desk deep = judged(body.toString(), TYPE, "multipart/x; boundary=b0");
+        Desk.due("parts that are ended", deep.sieve.session(0, 10), 5);
+        Desk.due("text of these", deep.text(0), "");
         Desk.due("parts of these", desk.sieve.session(0, 10), 4);
     }
 
@@ -248,6 +259,8 @@ public final class MessageTest {
         uri(0, "http:// http://_ http:/a https:a");
         uri(2, "http://a(http://b)");
         uri(1, "http://a;http://b");
+        uri(2, "http://a\u007fhttp://b");
+        uri(1, "http://a~!http://b");
         uri(2, "xhttp://a\u00e9http://b");
         uri(20, "http://a ".repeat(30));
         uri(1, "http://" + "h".repeat(300) + "/http://b");
@@ -265,6 +278,8 @@ public final class MessageTest {
             + "HTTP://t<a href=\"http://end", TYPE, "text/html"));
         Desk.due("uris of text and links", desk.held(0), "0 1 2 4 5");
         Desk.due("how many", desk.sieve.session(0, 12), 5);
+        desk.give(0, Desk.message("<b>none</b>", TYPE, "text/html"));
+        Desk.due("none in the next message", desk.sieve.session(0, 12), 0);
     }
 
     private static void uri(int want, String body) {
@@ -277,7 +292,8 @@ public final class MessageTest {
             {"=?us-ascii?Q?a?=\r\n =?us-ascii?Q?b?=", "ab"}, {"=?koi8-r?Q?a?= =?us-ascii?Q?b?=", "=?koi8-r?Q?a?= b"}, {"=?us-ascii?Q?a=4?=", "=?us-ascii?Q?a=4?="},
             {"=?us-ascii?X?a?=", "=?us-ascii?X?a?="}, {"=?us-ascii?Q?a b?=", "=?us-ascii?Q?a b?="}, {"=??Q?a?=", "=??Q?a?="}, {"=?us-ascii?Q?a", "=?us-ascii?Q?a"},
             {"==?us-ascii?Q?a?=?=", "=a?="}, {"=?us-ascii?Q?a?b?=", "=?us-ascii?Q?a?b?="}, {"=?us ascii?Q?a?=", "=?us ascii?Q?a?="}, {"\u00e9", "\u00e9"},
-            {"  a\r\n\t b \t", "a\t b"}, {"=?us-ascii?B?Y?=", ""}};
+            {"  a\r\n\t b \t", "a\t b"}, {"=?us-ascii?B?Y?=", ""}, {"=?us-ascii?Q??= =?us-ascii?Q?b?=", "b"}, {"=?us-ascii?Q?a?", "=?us-ascii?Q?a?"},
+            {"=?us-ascii?Q", "=?us-ascii?Q"}, {"=?us-ascii?Q?a=4", "=?us-ascii?Q?a=4"}};
         for (String[] row : rows) {
             Desk desk = new Desk();
             StringBuilder expression = new StringBuilder();
@@ -290,6 +306,8 @@ public final class MessageTest {
             desk.meet(0, "");
             desk.give(0, Desk.message("", "subject", row[0]));
             Desk.due("CHARS of " + row[0], desk.held(0), "0");
+            desk.give(0, Desk.message("", "other", "=?us-ascii?Q?a?= =?us-ascii?Q?a?=", "subject", row[0]));
+            Desk.due("CHARS behind those of another header of " + row[0], desk.held(0), "0");
         }
     }
 
@@ -312,6 +330,11 @@ public final class MessageTest {
         Desk.due("at most 100", desk.sieve.session(0, 13), 100);
         Desk.due("the first ones", desk.sieve.entry(Desk.digest("w1099"), 1), 1);
         Desk.due("no others", desk.sieve.entry(Desk.digest("w1100"), 1), -1);
+        desk = judged("ab\u007fcd abc\u007fdef \u00f0\u009f\u0098\u0080xy", TYPE, "text/plain; charset=utf-8");
+        desk.sieve.learn(0, false);
+        Desk.due("a word with a char of four bytes", desk.sieve.entry(Desk.digest("\ud83d\ude00xy"), 1), 1);
+        Desk.due("127 ends a word", desk.sieve.entry(Desk.digest("def"), 1), 1);
+        Desk.due("three words", desk.sieve.session(0, 13), 3);
         desk = judged("http://" + "H".repeat(50) + ". http://...");
         desk.sieve.learn(0, false);
         Desk.due("40 chars of a host", desk.sieve.entry(Desk.digest("u:" + "h".repeat(40)), 1), 1);

@@ -84,6 +84,11 @@ public final class NetTest {
         desk.sieve.tick(1);
         Desk.due("two are over", desk.sieve.state(9), 2);
         Desk.due("the oldest is now", query(desk, 0), "\0\u0003\u0001\0\0\u0001\0\0\0\0\0\0" + question("1.2.3.4", "bl.example"));
+        for (String address : new String[] {"9.10.99.100", "0.1.19.20", "101.109.110.199", "200.249.250.255"}) {
+            Desk numbers = zones("z");
+            numbers.meet(0, address);
+            Desk.due("the name of " + address, query(numbers, 0).substring(12), question(address, "z"));
+        }
         Desk other = zones("z");
         other.meet(0, "");
         Desk.due("none without an address", other.sieve.state(9), 0);
@@ -178,12 +183,23 @@ public final class NetTest {
         listed("bytes behind", true, 1, 0x80, 0, 1, two + "\u0040");
         listed("a long name", true, 1, 0x80, 0, 1, "\u003f" + "x".repeat(63) + "\u0001y\0" + two.substring(2));
         listed("labels and two bytes", true, 1, 0x80, 0, 1, "\u0001y\u00ff\u00ff" + two.substring(2));
+        listed("127.0.0.255", true, 1, 0x80, 0, 1, record(A, life, "\u007f\0\0\u00ff"));
+        listed("127.0.0.249", false, 1, 0x80, 0, 1, record(A, life, "\u007f\0\0\u00f9"));
         listed("code 3", false, 1, 0x80, 3, 1, two);
         listed("code 2", false, 0, 0x80, 2, 11, "");
         listed("code 3 with too many answers", false, 1, 0x80, 0x83, 11, "");
         Desk desk = zones("a.b");
         desk.meet(0, "10.0.0.1");
         String right = reply(query(desk, 0), 0x80, 0, 1, two);
+        Desk bit = new Desk();
+        bit.line("zone a.b");
+        bit.line("listed A 0 1");
+        bit.line("listed B 0 128");
+        bit.sieve.load();
+        bit.meet(0, "10.0.0.1");
+        bit.answer(reply(query(bit, 0), 0x80, 0, 2, record(A, life, "\u007f\0\0\u0001") + record(A, life, "\u007f\0\0\u0080")));
+        bit.give(0, Desk.message(""));
+        Desk.due("the first and the last bit", bit.held(0), "0 1");
         Desk.due("great letters", desk.answer(right.replace("\u0001a\u0001b", "\u0001A\u0001B")), 1);
     }
 
@@ -417,6 +433,25 @@ public final class NetTest {
     }
 
     private static void greylistHas24() {
+        for (int old = 0; old < 24; old += 1) {
+            Desk desk = grey(5);
+            desk.meet(0, "10.0.0.1");
+            for (int i = 0; i < 24; i++) {
+                ask(desk, "<>", "r" + i);
+            }
+            desk.sieve.tick(1);
+            for (int i = 0; i < 24; i++) {
+                // old and the last one stay as they are: the first of both goes
+                if (i != old && i != 23) {
+                    ask(desk, "<>", "r" + i);
+                }
+            }
+            ask(desk, "<>", "new");
+            desk.sieve.tick(4);
+            Desk.due("the first stays unless it is " + old, ask(desk, "", "r" + (old == 0 ? 1 : 0)), "c");
+            Desk.due("the last stays unless it is " + old, ask(desk, "", "r" + (old == 23 ? 22 : 23)), "c");
+            Desk.due("r" + old + " went", ask(desk, "", "r" + old), "t");
+        }
         Desk desk = grey(5);
         desk.meet(0, "10.0.0.1");
         for (int i = 0; i < 24; i++) {
