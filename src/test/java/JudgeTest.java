@@ -85,6 +85,7 @@ public final class JudgeTest {
         Desk.due("no products", desk.line("meta O T+F*1"), 11);
         held("0 2", new String[] {"count T 1", "meta A !B", "meta B T"}, "");
         held("2", new String[] {"count T 0", "meta A !B", "meta B !T&&1-1||!T"}, "");
+        held("0 2", new String[] {"count T 1", "meta A !(T||0)", "meta B (0||T&&(1<0||T))+1==2"}, "");
         held("0", new String[] {"meta A 9999+9999-9999==9999"}, "");
     }
 

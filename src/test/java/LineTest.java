@@ -165,6 +165,7 @@ public final class LineTest {
         Desk.due("bayes of equals", desk.line("bayes C 5 5"), -2);
         Desk.due("listed of zone 3", desk.line("listed C 3 1"), -2);
         Desk.due("listed of no bit", desk.line("listed C 2 0"), -2);
+        Desk.due("listed", desk.line("listed D 2 255"), 0);
         Desk.due("listed of 256", desk.line("listed C 2 256"), -2);
         Desk.due("grey", desk.line("grey 3600"), 0);
         Desk.due("grey of 3601", desk.line("grey 3601"), -2);

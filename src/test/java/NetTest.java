@@ -143,7 +143,7 @@ public final class NetTest {
         String right = reply(q, 0x80, 0, 1, good);
         String[] wrong = {"", right.substring(0, 11), right.substring(0, 20), right.substring(0, right.length() - 1), "\0\u0002" + right.substring(2), reply(q, 0x7f, 0, 1, good),
             reply(q, 0x88, 0, 1, good), reply(q, 0xF8, 0, 1, good), right.substring(0, 5) + "\u0002" + right.substring(6), right.substring(0, 4) + "\u0001" + right.substring(5),
-            reply(q, 0x80, 0, 2, good), reply(q, 0x80, 0, 11, good.repeat(11)), right.replace("\u000210", "\u000211"), reply(q, 0x80, 0, 1, "\u0040" + good), reply(q, 0x80, 0, 1, "\u00c0"),
+            reply(q, 0x80, 0, 2, good), reply(q, 0x80, 0, 11, good.repeat(11)), right.replace("\u000210", "\u000211"), reply(q, 0x80, 0, 1, "\u0040" + "x".repeat(64) + good), reply(q, 0x80, 0, 1, "\u00bf" + "x".repeat(191) + good), reply(q, 0x80, 0, 1, "\u00c0"),
             reply(q, 0x80, 0, 1, "\u0003ab"), reply(q, 0x80, 0, 1, "")};
         for (int i = 0; i < wrong.length; i++) {
             Desk.due("answer " + i, desk.answer(wrong[i]), 0);

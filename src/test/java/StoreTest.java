@@ -15,6 +15,7 @@ public final class StoreTest {
         compacting();
         theLatestIndicator();
         indicators();
+        theEarlierOfTheSame();
         Desk.end();
     }
 
@@ -178,6 +179,8 @@ public final class StoreTest {
         }
         Desk.due("no room to learn", desk.sieve.learn(0, true), -2);
         Desk.due("S stays", desk.sieve.state(5), 14);
+        desk.give(0, Desk.message(words(1000, 1086)));
+        Desk.due("no room for 86 tokens", desk.sieve.learn(0, true), -2);
         for (int i = 0; i < 114; i++) {
             Desk.due("expire " + i, desk.sieve.expire(0), 0);
         }
@@ -188,6 +191,14 @@ public final class StoreTest {
         Desk.due("a wrong time all the same", desk.sieve.expire(-1), -1);
         Desk.due("compact makes room", desk.sieve.compact(), 6 + 1800);
         Desk.due("learn again", desk.sieve.learn(0, true), 100);
+        desk = desk();
+        desk.give(0, Desk.message(words(1000, 1100)));
+        for (int i = 0; i < 14; i++) {
+            desk.sieve.learn(0, true);
+        }
+        Desk.due("85 tokens fit just so", learn(desk, words(1000, 1085), true), 100);
+        Desk.due("the journal is full", desk.sieve.state(7), 12000);
+        Desk.due("no room for a message without tokens", learn(desk, "", true), -2);
     }
 
     private static void crashes() {
@@ -294,6 +305,32 @@ public final class StoreTest {
             desk.give(0, Desk.message(text.toString()));
             desk.sieve.clear(0);
             Desk.due("indicator from " + from, desk.sieve.indicator(0), indicator(weights, n));
+        }
+    }
+
+    /** 15 words of one kind and one of the other, all as strong (or nearly so): the order and the cut can be seen. */
+    private static void theEarlierOfTheSame() {
+        for (int times = 1; times <= 8; times++) {
+            Desk desk = desk();
+            String spam = words(1000, 1016);
+            String ham = words(2000, 2016);
+            for (int i = 0; i < times; i++) {
+                learn(desk, spam, true);
+                learn(desk, ham, false);
+            }
+            for (int first = 0; first <= 16; first++) {
+                String text = words(1000, 1000 + first) + words(2000, 2016 - first) + words(1000 + first, 1002 + first);
+                double[] weights = new double[18];
+                int n = 0;
+                for (String word : text.trim().split(" ")) {
+                    if (!word.equals("w1016") && !word.equals("w1017")) {
+                        weights[n++] = word.startsWith("w1") ? weight(times, 0, times, times) : weight(0, times, times, times);
+                    }
+                }
+                desk.give(0, Desk.message(text));
+                desk.sieve.clear(0);
+                Desk.due("indicator of " + first + " first ones, " + times, desk.sieve.indicator(0), indicator(weights, n));
+            }
         }
     }
 
