@@ -731,7 +731,7 @@ public final class MailSieve {
         }
         for (int i = from; i < to; i++) {
             int c = bytes[i];
-            // small() written out: this is where calls are deepest
+            // small() written out: calls are deep here
             if ((c >= 'A' && c <= 'Z' ? c + 32 : c) != word.charAt(i - from)) {
                 return false;
             }
@@ -2401,6 +2401,8 @@ public final class MailSieve {
         int boundaryLength;
         final byte[] tail = new byte[MOST_TAIL];
         int tailLength;
+        private int nameFrom;
+        private int nameTo;
         private int wordFrom;
         private int wordTo;
         private int wordCharset;
@@ -2456,11 +2458,11 @@ public final class MailSieve {
             if (colon == 0 || colon >= length) {
                 return false;
             }
-            int nameTo = colon;
-            while (nameTo > 0 && isBlank(value[nameTo - 1])) {
-                nameTo--;
+            int stop = colon;
+            while (stop > 0 && isBlank(value[stop - 1])) {
+                stop--;
             }
-            if (!sameSmall(value, 0, nameTo, field)) {
+            if (!sameSmall(value, 0, stop, field)) {
                 return false;
             }
             unfold(value, colon + 1, length);
@@ -2496,6 +2498,9 @@ public final class MailSieve {
                     kind = kindOf(slash, stop);
                     for (int left = valueLength; left > 0 && stop > 0; left--) {
                         stop = takeParameter(stop);
+                        if (stop > 0) {
+                            keepParameter();
+                        }
                     }
                 }
             }
@@ -2529,22 +2534,19 @@ public final class MailSieve {
             return isLetter(c) || isDigit(c) || c == '+' || c == '-' || c == '.' || c == '_';
         }
 
-        /** The place behind a parameter that stands here; -1 when there is none. */
+        /** The place behind a parameter that stands here, whose value is then the coded bytes; -1 when there is none. */
         private int takeParameter(int from) {
             int i = blanksStop(value, from, valueLength);
             if (i >= valueLength || value[i] != ';') {
                 return -1;
             }
-            int nameFrom = blanksStop(value, i + 1, valueLength);
-            int nameTo = tokenStop(nameFrom);
+            nameFrom = blanksStop(value, i + 1, valueLength);
+            nameTo = tokenStop(nameFrom);
             if (nameTo == nameFrom || nameTo >= valueLength || value[nameTo] != '=') {
                 return -1;
             }
-            int behind = nameTo + 1 < valueLength && value[nameTo + 1] == '"' ? takeQuotes(nameTo + 2) : takeBare(nameTo + 1);
-            if (behind > 0) {
-                keepParameter(nameFrom, nameTo);
-            }
-            return behind;
+            boolean quotes = nameTo + 1 < valueLength && value[nameTo + 1] == '"';
+            return quotes ? takeQuotes(nameTo + 2) : takeBare(nameTo + 1);
         }
 
         private int takeBare(int from) {
@@ -2574,7 +2576,7 @@ public final class MailSieve {
         }
 
         /** The first one of a name counts. */
-        private void keepParameter(int nameFrom, int nameTo) {
+        private void keepParameter() {
             if (charset == UNTOLD && sameSmall(value, nameFrom, nameTo, "charset")) {
                 charset = charsetOf(coded, 0, codedLength);
                 charset = charset == UNTOLD ? LATIN : charset;
@@ -2903,7 +2905,14 @@ public final class MailSieve {
                 if (mime.kind == Mime.MULTIPART && bounded && parts[k][DEPTH] <= 3) {
                     split(mail.body, k);
                 } else if (mime.kind == Mime.PLAIN || mime.kind == Mime.HTML) {
-                    addLeaf(mail.body, parts[k], mime.codingOf(loadField(mail, k, "content-transfer-encoding")));
+                    int from = rawLength;
+                    beginLeaf(mail.body, parts[k], mime.codingOf(loadField(mail, k, "content-transfer-encoding")));
+                    if (mime.kind == Mime.HTML) {
+                        addMarkup(from, rawLength);
+                    } else {
+                        addPlain(from, rawLength);
+                    }
+                    endLeaf();
                 } else {
                     parts[k][TAIL] = mime.tailLength;
                     System.arraycopy(mime.tail, 0, tails[k], 0, Mime.MOST_TAIL);
@@ -3008,10 +3017,10 @@ public final class MailSieve {
             }
         }
 
-        private void addLeaf(byte[] body, int[] part, int coding) {
+        /** The chars of a leaf come to the raw text. */
+        private void beginLeaf(byte[] body, int[] part, int coding) {
             int from = part[BODY_FROM];
             int to = part[BODY_TO];
-            int start = rawLength;
             if (coding == Mime.AS_IS) {
                 rawLength = mime.decode(body, from, to, mime.charset, raw, rawLength);
             } else {
@@ -3021,13 +3030,16 @@ public final class MailSieve {
             leafStart = textLength;
             lineDue = false;
             blankDue = false;
-            if (mime.kind == Mime.HTML) {
-                addMarkup(start, rawLength);
-            } else {
-                for (int i = start; i < rawLength; i++) {
-                    addSmooth(raw[i]);
-                }
+        }
+
+        private void addPlain(int from, int to) {
+            for (int i = from; i < to; i++) {
+                addSmooth(raw[i]);
             }
+        }
+
+        /** A 10 comes behind both texts. */
+        private void endLeaf() {
             addText(10);
             if (rawLength < MOST_TEXT) {
                 raw[rawLength] = 10;
@@ -3115,7 +3127,7 @@ public final class MailSieve {
             }
             for (int i = 0; i < word.length(); i++) {
                 int c = raw[at + i];
-                // small() written out: this is where calls are deepest
+                // small() written out: calls are deep here
                 if ((c >= 'A' && c <= 'Z' ? c + 32 : c) != word.charAt(i)) {
                     return false;
                 }
