@@ -7,23 +7,42 @@ final class Desk {
     private static final int MOST_TOLD = 30;
     private static int wrong = 0;
     private static int checks = 0;
+    private static int sentences = 0;
+    private static int checksAhead = 0;
+    private static String sentence = "";
 
     final MailSieve sieve = new MailSieve();
 
     // ---- checking
+
+    /** The checks from here on are of this sentence of the document; a sentence without a check is an error. */
+    static void of(String words) {
+        endSentence();
+        sentence = words;
+        sentences++;
+        checksAhead = checks;
+    }
+
+    private static void endSentence() {
+        if (sentences > 0 && checks == checksAhead) {
+            wrong++;
+            System.out.println("nothing was checked of: " + sentence);
+        }
+    }
 
     static void due(String what, Object got, Object want) {
         checks++;
         if (!want.equals(got)) {
             wrong++;
             if (wrong <= MOST_TOLD) {
-                System.out.println(what + " answered " + got + ", due is " + want);
+                System.out.println((sentence.isEmpty() ? "" : "[" + sentence + "] ") + what + " answered " + got + ", due is " + want);
             }
         }
     }
 
     static void end() {
-        System.out.println(checks + " checks, " + wrong + " wrong");
+        endSentence();
+        System.out.println((sentences > 0 ? sentences + " sentences, " : "") + checks + " checks, " + wrong + " wrong");
         if (wrong != 0 || checks == 0) {
             System.exit(1);
         }
@@ -122,6 +141,36 @@ final class Desk {
     }
 
     // ---- sessions and messages
+
+    static String greeting(int granted) {
+        return packet('O', number(6) + number(granted) + number(0));
+    }
+
+    /** A new object whose session 0 is open and got these packets. */
+    static Desk in(String packets) {
+        Desk desk = new Desk();
+        desk.sieve.open(0);
+        desk.give(0, packets);
+        return desk;
+    }
+
+    /** A new object with these lines loaded. */
+    static Desk with(String... lines) {
+        Desk desk = new Desk();
+        for (String line : lines) {
+            due("line " + line, desk.line(line), 0);
+        }
+        due("load of " + String.join(", ", lines), desk.sieve.load() >= 0, true);
+        return desk;
+    }
+
+    /** Judges a message on session 0, without an address, and with an output that is empty then. */
+    Desk judge(String body, String... headers) {
+        meet(0, "");
+        give(0, message(body, headers));
+        sieve.clear(0);
+        return this;
+    }
 
     /** Opens a session with everything granted, and a client of this address (or of family U, when it is empty). */
     void meet(int s, String address) {
