@@ -5,6 +5,8 @@ import java.util.Arrays;
 /** What the tests share: an object under test, ways to feed it, and a count of wrong answers. */
 final class Desk {
     private static final int MOST_TOLD = 30;
+    /** Signs that mean something where they stand behind others. */
+    static final String LITTER = "a0\u0080\n;=\"- ?>:/";
     private static int wrong = 0;
     private static int checks = 0;
     private static int sentences = 0;
@@ -196,12 +198,26 @@ final class Desk {
         return all.append(packet('E', "")).toString();
     }
 
-    /** Judges a message on session 0 of a new object and tells its text, chars above 255 as \\u.... */
+    /** Judges a message that leaves this sign, so many times, behind in each row that is used again. */
+    void litter(char sign, int times) {
+        sieve.clear(0);
+        String row = ("" + sign).repeat(times);
+        give(0, message(row, "Subject", row, "Content-Type", "text/plain; charset=x"));
+        sieve.clear(0);
+    }
+
+    /** Judges a message on session 0 of a new object and tells its text; what longer messages left behind must not matter. */
     static String textOf(String body, String... headers) {
         Desk desk = new Desk();
         desk.meet(0, "");
         desk.give(0, message(body, headers));
-        return desk.text(0);
+        String text = desk.text(0);
+        for (char sign : LITTER.toCharArray()) {
+            desk.litter(sign, body.length() + 40);
+            desk.give(0, message(body, headers));
+            due("text of " + body + " behind a message of " + sign, desk.text(0), text);
+        }
+        return text;
     }
 
     String text(int s) {

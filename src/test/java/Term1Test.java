@@ -45,7 +45,17 @@ public final class Term1Test {
 
     /** A packet in a state (its way) leads to a state and these replies. */
     private static void step(String way, char letter, String data, int want, String replies) {
-        Desk desk = Desk.in(way);
+        stepIn(Desk.in(way), way, letter, data, want, replies);
+        for (char left : "\0a.0".toCharArray()) {
+            // a longer packet came before, so that these bytes stand behind those of this one
+            Desk desk = Desk.in(READY + Desk.packet('A', ("" + left).repeat(data.length() + 600)));
+            desk.sieve.open(0);
+            desk.give(0, way);
+            stepIn(desk, way, letter, data, want, replies);
+        }
+    }
+
+    private static void stepIn(Desk desk, String way, char letter, String data, int want, String replies) {
         desk.sieve.clear(0);
         desk.give(0, Desk.packet(letter, data));
         String what = letter + " with " + data.replace('\0', '~') + " in state " + java.util.Arrays.asList(WAYS).indexOf(way);
@@ -160,6 +170,10 @@ public final class Term1Test {
         Desk.due(what + ": learnt yet", desk.sieve.learn(0, true), 2);
         Desk.due(what + ": opened again", desk.sieve.open(0), true);
         desk.sieve.give(0, 0);
+        desk.sieve.clear(0);
+        desk.give(0, READY + Desk.packet('A', ""));
+        Desk.due(what + ": there was no C since then", desk.sieve.session(0, 0), 2);
+        desk.sieve.open(0);
         desk.sieve.clear(0);
         // an address that was not forgotten would ask the greylist
         desk.give(0, READY + Desk.client("") + Desk.packet('M', "s\0") + Desk.packet('R', "new\0"));
@@ -571,7 +585,16 @@ public final class Term1Test {
         int[] ready = {0, 2, 2, 2, 2, 2, 2};
         for (int w = 0; w < WAYS.length; w++) {
             step(WAYS[w], 'K', "any", ready[w], "");
+            Desk desk = Desk.in(WAYS[w] + Desk.packet('K', ""));
+            for (int what = 4; what <= 7; what++) {
+                Desk.due("session " + what + " behind K", desk.sieve.session(0, what), 0);
+            }
         }
+        state("A in READY of one that is opened again", BODY, 7);
+        Desk again = Desk.in(BODY);
+        again.sieve.open(0);
+        again.give(0, READY + Desk.packet('A', ""));
+        Desk.due("A when it is opened again", again.sieve.session(0, 0), 2);
         Desk desk = Desk.with("grey 1");
         desk.meet(0, "10.0.0.1");
         desk.give(0, Desk.packet('K', "") + Desk.client("") + Desk.packet('M', "a\0") + Desk.packet('R', "b\0"));

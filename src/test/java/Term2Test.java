@@ -40,6 +40,7 @@ public final class Term2Test {
         tags();
         scripts();
         links();
+        linksOfOneMessage();
         entities();
         numbers();
         smoothing();
@@ -49,6 +50,8 @@ public final class Term2Test {
         atMostTwentyUris();
         longUris();
         hosts();
+        cutBodies();
+        cutHeaders();
         Desk.end();
     }
 
@@ -133,6 +136,11 @@ public final class Term2Test {
         Desk desk = Desk.with("header A Subject /^" + expression.toString().replace("\\/", ".") + "$/");
         desk.judge("", "subject", value);
         Desk.due("CHARS of " + value, desk.held(0), "0");
+        for (char sign : Desk.LITTER.toCharArray()) {
+            desk.litter(sign, value.length() + 20);
+            desk.judge("", "subject", value);
+            Desk.due("CHARS of " + value + " behind a message of " + sign, desk.held(0), "0");
+        }
         Set<String> words = new LinkedHashSet<>();
         for (String word : want.split("[\\x00-#%&(-,./:-@\\[-`{-\\x7f]+")) {
             int length = word.codePointCount(0, word.length());
@@ -296,13 +304,23 @@ public final class Term2Test {
         coded("base64", "A", "QU==QUJD");
         coded("base64", "", "=QUJD");
         coded("base64", "", "Q=UJD");
-        coded("base64", "", "@[`{:,.");
+        for (int c = 1; c < 256; c++) {
+            if (c != '+' && c != '/' && (c > 127 || !Character.isLetterOrDigit(c))) {
+                coded("base64", "", ("" + (char) c).repeat(4));
+                coded("base64", c == '=' ? "" : "ABC", (char) c + "QUJD");
+            }
+        }
         coded("base64", "ABC", "QUJD=");
         coded("base64", "\u00ff\u00ff\u00ff", "////");
     }
 
     private static void quotedPrintable() {
         Desk.of("QUOTED-PRINTABLE: = and two digits (0 to 9, a to f, A to F) are that byte");
+        for (int b = 0; b < 32; b++) {
+            if (b != 9 && b != 10 && b != 13) {
+                coded("quoted-printable", "." + (char) b + ".", String.format(".=%02x.", b));
+            }
+        }
         for (int b = 33; b < 256; b++) {
             coded("quoted-printable", "." + (b == 160 ? ' ' : (char) b) + ".", String.format(".=%02X.", b));
         }
@@ -314,6 +332,8 @@ public final class Term2Test {
         coded("quoted-printable", "a=A", "a==41");
         coded("quoted-printable", "a=4", "a=4");
         coded("quoted-printable", "a=b", "a=\rb");
+        coded("quoted-printable", "a=", "a=\r");
+        coded("quoted-printable", "a=", "a= \r");
         Desk.of("= and blanks (perhaps none) and a line's end (13 10, or 10) or the end are left out");
         for (String blanks : new String[] {"", " ", "\t", " \t "}) {
             for (String end : new String[] {"\r\n", "\n"}) {
@@ -358,6 +378,7 @@ public final class Term2Test {
         chars("=?us-ascii?Q?!\"#$%&'()*+,-.:;<>@[\\]^`{|}~?=", "!\"#$%&'()*+,-.:;<>@[\\]^`{|}~");
         Desk.of("of B the BASE64, of Q (_ is 32; = and two digits that byte; others themselves) the bytes");
         chars("=?us-ascii?Q?a_b=5F=20=3d=3F?=", "a b_ =?");
+        chars("=?us-ascii?Q?ab=00=01c?=", "ab\0\u0001c");
         chars("=?us-ascii?B?YWJj?=", "abc");
         chars("=?us-ascii?B?YWI?=", "ab");
         chars("=?us-ascii?B?YW?=", "a");
@@ -371,7 +392,7 @@ public final class Term2Test {
 
     private static void encodedWordsThatAreNone() {
         Desk.of("(what is none stays as it is, and it goes on with the next char); a = without two digits: it is no encoded word");
-        String[] none = {"=?us-ascii?Q?a=?=", "=?us-ascii?Q?a=4?=", "=?us-ascii?Q?=4g?=", "=?us-ascii?Q?=g4?=", "=?us-ascii?Q?==41?=", "=??Q?a?=", "=?us-ascii?X?a?=", "=?us-ascii??a?=", "=?us-ascii?QQ?a?=",
+        String[] none = {"=?us-ascii?Q?a=?=", "=?us-ascii?Q?a=4?=", "=?us-ascii?Q?=4g?=", "=?us-ascii?Q?=g4?=", "=?us-ascii?Q?==41?=", "=??Q?a?=", "=?us-ascii?X?a?=", "=?us-ascii??a?=", "=?us-ascii?QQ?a?=", "=?us-ascii?QX?=", "=?us-ascii?Qab?=", "=?us-ascii*Q?a?=", "=?us-ascii Q?a?=", "=.us-ascii?Q?a?=", "==us-ascii?Q?a?=",
             "=?us-ascii?Q?a b?=", "=?us-ascii?Q?a\tb?=", "=?us-ascii?Q?a\u007fb?=", "=?us-ascii?Q?a\u00e9b?=", "=?us-ascii?Q?a?b?=", "=?us.ascii?Q?a?=", "=?us ascii?Q?a?=", "=?us*ascii?Q?a?=", "=?us-ascii?Q?a?",
             "=?us-ascii?Q?a", "=?us-ascii?Q?", "=?us-ascii?Q", "=?us-ascii?", "=?us-ascii", "=?", "=", "? =", "=us-ascii?Q?a?=", "?us-ascii?Q?a?=", "=?us-ascii?Q?a=?", "=?us-ascii?Q?a??="};
         for (String value : none) {
@@ -452,7 +473,7 @@ public final class Term2Test {
         for (String rest : right) {
             parameter(rest, true);
         }
-        String[] wrong = {" charset=utf-8", ", charset=utf-8", ";; charset=utf-8", "; ; charset=utf-8", "; charset", "; charset=", "; =utf-8", "; charset =utf-8", "; charset= utf-8", "; a; charset=utf-8", "; a=; charset=utf-8", "; a=b c; charset=utf-8", "; a*=b; charset=utf-8",
+        String[] wrong = {" charset=utf-8", ", charset=utf-8", ";; charset=utf-8", "; ; charset=utf-8", "; charset", "; charset=", "; =utf-8", "; =x; charset=utf-8", ";=x;charset=utf-8", "; charset =utf-8", "; charset= utf-8", "; a; charset=utf-8", "; a=; charset=utf-8", "; a=b c; charset=utf-8", "; a*=b; charset=utf-8",
             "; \u00e9=b; charset=utf-8", "x; charset=utf-8", "; charsets=utf-8", "; harset=utf-8", "/x; charset=utf-8", "; a=\u00e9; charset=utf-8"};
         for (String rest : wrong) {
             parameter(rest, false);
@@ -483,6 +504,12 @@ public final class Term2Test {
         Desk desk = new Desk().judge(body, TYPE, type);
         Desk.due("parts: " + what, desk.sieve.session(0, 10), parts);
         Desk.due("text: " + what, desk.text(0), text);
+        for (char sign : Desk.LITTER.toCharArray()) {
+            desk.litter(sign, body.length() + 40);
+            desk.judge(body, TYPE, type);
+            Desk.due("parts behind a message of " + sign + ": " + what, desk.sieve.session(0, 10), parts);
+            Desk.due("text behind a message of " + sign + ": " + what, desk.text(0), text);
+        }
     }
 
     private static void lines() {
@@ -524,13 +551,15 @@ public final class Term2Test {
         for (String blanks : new String[] {"", " ", "\t", " \t "}) {
             parted("blanks behind", type, "--q" + blanks + "\n\none\n--q" + blanks + "\n\ntwo\n--q--" + blanks + "\nout", 3, "one\ntwo\n");
         }
-        for (String none : new String[] {" --q", "-q", "--", "--Q", "--qx", "--q x", "--q-", "--q-x", "--q- -", "--q --", "--q--x", "--q---", "--q-- x", "---q", "q", "--q\u000b", "--q--\u00a0"}) {
+        for (String none : new String[] {"x-q", "-xq", "xxq", "+-q", "-+q", " --q", "-q", "--", "--Q", "--qx", "--q x", "--q-", "--q-x", "--q- -", "--q --", "--q--x", "--q---", "--q-- x", "---q", "q", "--q\u000b", "--q--\u00a0"}) {
             Desk desk = new Desk().judge("--q\n\none\n" + none + "\ntwo\n--q--\nout", TYPE, type);
             Desk.due("no separator: " + none, desk.sieve.session(0, 10), 2);
             Desk.due("it stays: " + none, desk.text(0).endsWith("two\n"), true);
         }
         Desk.of("what is ahead of the first separator and behind the last one is left out");
         parted("ahead", type, "out\n\nout\n--q\n\none\n", 2, "one\n");
+        parted("an empty line ahead", type, "\n--q\n\none\n", 2, "one\n");
+        parted("an empty line of 13 10 ahead", type, "\r\n\r\n--q\n\none\n", 2, "one\n");
         parted("behind", type, "--q\n\none\n--q--\n--q\n\nout\n--q--\n", 2, "one\n");
         parted("the last one first", type, "--q--\n--q\n\nout", 1, "");
         parted("none at all", type, "out\nout", 1, "");
@@ -572,8 +601,12 @@ public final class Term2Test {
         html("the first one by itself", false, " " + TYPE + ": text/html");
         html("behind a first one with a blank", true, " A: b", TYPE + ": text/html");
         html("of blanks alone, not empty", true, TYPE + ": text/html;", " ", " a=b");
+        String folded = "--q\n" + TYPE + ": multipart/x; boundary=\"r\n \n s\"\n\n--r  s\n\ntwo blanks\n--r s\n\none blank\n--q--";
+        parted("a line of one blank is one blank", "multipart/x; boundary=q", folded, 3, "two blanks\n--r s\none blank\n");
         Desk.of("a line without : or with nothing ahead of it is left out");
         html("without :", true, "junk", TYPE + ": text/html");
+        html("the name alone", true, TYPE, TYPE + ": text/html");
+        html("the name alone and blanks", true, TYPE + " ", TYPE + ": text/html");
         html("nothing ahead of it", true, ":" + TYPE + ": text/plain", TYPE + ": text/html");
         html("alone", false, TYPE + " text/html");
         html("none at all", false, "junk");
@@ -756,9 +789,22 @@ public final class Term2Test {
             "<script><a href=\"" + u + "\"></script>", "<a href=\"\" href=\"" + u + "\">", "<a href=\"x\" href=\"" + u + "\">", "<a href=\" " + u + "\">", "<a href=\"x" + u + "\">", "<a href=\"", "<a href=", "<a> href=\"", "<a href=\"http://\">", "<a href=\"http:/h\">",
             "<a href=\"http://_\">", "<a x=\">\" href=\"ftp://h\">"};
         for (String tag : none) {
-            Desk.due("no link in " + tag, new Desk().judge(tag, TYPE, "text/html").sieve.session(0, 12), 0);
+            Desk desk = new Desk();
+            for (char sign : Desk.LITTER.toCharArray()) {
+                desk.judge(tag, TYPE, "text/html");
+                Desk.due("no link in " + tag, desk.sieve.session(0, 12), 0);
+                desk.litter(sign, tag.length() + 40);
+            }
         }
         Desk.due("none of a text", new Desk().judge("<a href=\"http:/\">", TYPE, "text/plain").sieve.session(0, 12), 0);
+    }
+
+    private static void linksOfOneMessage() {
+        Desk desk = new Desk().judge("<a href=\"http://one\">", TYPE, "text/html");
+        Desk.due("a link", desk.sieve.session(0, 12), 1);
+        Desk.due("the next message has it no more", desk.judge("123456789http://one").sieve.session(0, 12), 1);
+        desk = Desk.with("uri A /^http:..h#x$/").judge("<a href=\"http://h#x\">", TYPE, "text/html");
+        Desk.due("signs within a link", desk.held(0), "0");
     }
 
     private static void entities() {
@@ -856,9 +902,13 @@ public final class Term2Test {
             }
             lines.add("uri U" + i + " /^" + expression + "$/");
         }
-        Desk desk = Desk.with(lines.toArray(new String[0])).judge(body);
-        Desk.due("uris of " + body, desk.sieve.session(0, 12), want.length);
-        Desk.due("all of them of " + body, desk.sieve.session(0, 9), want.length);
+        Desk desk = Desk.with(lines.toArray(new String[0]));
+        for (char sign : Desk.LITTER.toCharArray()) {
+            desk.judge(body);
+            Desk.due("uris of " + body, desk.sieve.session(0, 12), want.length);
+            Desk.due("all of them of " + body, desk.sieve.session(0, 9), want.length);
+            desk.litter(sign, body.length() + 40);
+        }
     }
 
     private static void urisOfTheText() {
@@ -971,5 +1021,68 @@ public final class Term2Test {
         host("p".repeat(40), "http://" + "p".repeat(112) + ".x");
         host("", "http://" + ".".repeat(113) + "x");
         host(".".repeat(40), "http://" + ".".repeat(112) + "x");
+    }
+
+    // ---- what ends too soon, behind a message that did not
+
+    private static String told(Desk desk) {
+        return desk.text(0) + " " + desk.held(0) + " " + desk.sieve.session(0, 10) + " " + desk.sieve.session(0, 11) + " " + desk.sieve.session(0, 12) + " " + desk.sieve.session(0, 13);
+    }
+
+    private static void cutBodies() {
+        Desk.of("LINES end with 13 10 or 10 (or the end); (to the end without one): at each place");
+        String[] types = {"multipart/x; boundary=q", "text/html; charset=utf-8", "text/plain; charset=utf-8", "text/html"};
+        String[] codings = {"7bit", "7bit", "quoted-printable", "base64"};
+        String html = "a<br>b<script>x</script>c&amp;&#65;&nbsp;<!-- x -->\u00c3\u00a9\u00e2\u0082\u00ac\u00f0\u009f\u0098\u0080<a href=\"http://h.x/y\">z</a>http://i.j/k (https://l) 'm'";
+        String[] bodies = {
+            "a\r\n--q\r\nContent-Type: text/html;\r\n charset=\"utf-8\"\r\nContent-Transfer-Encoding: base64\r\n\r\nPGI+eA==\r\n--q \r\n\r\nplain\r\n--q\r\nContent-Type: a/b; name=c.exe\r\n\r\nx\r\n--q--\r\nout",
+            html, "a=41=\r\nb =  \r\nc \r\n=C3=A9=E2=82=AC d=3D", Base64.getEncoder().encodeToString(Desk.bytes(html))};
+        for (int i = 0; i < bodies.length; i++) {
+            String[] lines = {"attach A exe", "raw B / $/", "raw C /\\n\\n/", "raw D /.$/"};
+            Desk used = Desk.with(lines);
+            Desk fresh = Desk.with(lines);
+            for (int cut = 0; cut <= bodies[i].length(); cut++) {
+                String body = bodies[i].substring(0, cut);
+                used.judge(bodies[i], TYPE, types[i], CODING, codings[i]);
+                used.judge(body, TYPE, types[i], CODING, codings[i]);
+                // zeros, which mean nothing anywhere, are left behind in this one
+                fresh.judge("\0".repeat(bodies[i].length()), TYPE, "text/plain");
+                fresh.judge(body, TYPE, types[i], CODING, codings[i]);
+                Desk.due("the first " + cut + " of " + bodies[i], told(used), told(fresh));
+            }
+        }
+    }
+
+    private static void cutHeaders() {
+        Desk.of("ENCODED WORDS and CONTENT-TYPE: what is none, at each place");
+        List<String> lines = new ArrayList<>();
+        for (int k = 0; k <= 20; k++) {
+            lines.add("header L" + k + " Subject /^(.|\\n){" + k + "}$/");
+        }
+        String[] values = {"=?us-ascii?Q?a=41b?=", "=?utf-8?B?w6nDqQ==?=", "a =?us-ascii?q?b?= =?us-ascii?b?Yw==?= d", "=?utf-8?Q?=e2=82=ac?="};
+        for (String value : values) {
+            Desk used = Desk.with(lines.toArray(new String[0]));
+            Desk fresh = Desk.with(lines.toArray(new String[0]));
+            for (int cut = 0; cut <= value.length(); cut++) {
+                used.judge("", "Subject", value);
+                used.judge("", "Subject", value.substring(0, cut));
+                fresh.judge("", "Subject", "\u0001".repeat(value.length()));
+                fresh.judge("", "Subject", value.substring(0, cut));
+                Desk.due("the first " + cut + " of " + value, told(used), told(fresh));
+            }
+        }
+        String[] types = {"text/html; a=\"b\\\"c\"; charset=\"utf-8\"", "text/html ; charset=utf-8 ; d=e", "multipart/mixed; boundary=\"q\""};
+        String body = "<b>\u00c3\u00a9\n--q\n\nx\n--q--";
+        for (String type : types) {
+            Desk used = new Desk();
+            Desk fresh = new Desk();
+            for (int cut = 0; cut <= type.length(); cut++) {
+                used.judge(body, TYPE, type);
+                used.judge(body, TYPE, type.substring(0, cut));
+                fresh.judge(body, TYPE, "\u0001".repeat(type.length()));
+                fresh.judge(body, TYPE, type.substring(0, cut));
+                Desk.due("the first " + cut + " of " + type, told(used), told(fresh));
+            }
+        }
     }
 }

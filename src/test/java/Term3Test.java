@@ -32,12 +32,16 @@ public final class Term3Test {
     }
 
     private static void right(String expression) {
-        Desk.due(expression + " is right", DESK.find(expression, "", false) >= 0, true);
+        for (String row : new String[] {"", "*", "?a", "{0}", "}", ")", "]", "|", "/", "\u0001"}) {
+            Desk.due(expression + " is right with the row " + row, DESK.find(expression, row, false) >= 0, true);
+        }
         Desk.due(expression + " is right in a line", new Desk().line("body A /" + expression + "/"), 0);
     }
 
     private static void wrong(String expression, int place) {
-        Desk.due(expression + " is wrong at " + place, DESK.find(expression, "", false), -2 - place);
+        for (String row : new String[] {"", ")", "))))))", "a", "a]", "]", "-b]", "}", "1}", ",2}", "d", "d]"}) {
+            Desk.due(expression + " is wrong at " + place + " with the row " + row, DESK.find(expression, row, false), -2 - place);
+        }
         Desk.due(expression + " is wrong with the flag", DESK.find(expression, "", true), -2 - place);
         if (expression.indexOf('/') < 0) {
             Desk.due(expression + " is wrong in a line", new Desk().line("body A /" + expression + "/"), 8 + place + 1);
@@ -140,6 +144,12 @@ public final class Term3Test {
         wrong("[a-^]", 3);
         wrong("[a-[]", 3);
         wrong("[a-\\d]", 3);
+        wrong("[A-\\d]", 3);
+        wrong("[A-\\]]", 3);
+        wrong("[ -\\~]", 3);
+        wrong("[A-[]", 3);
+        wrong("[A-^]", 3);
+        wrong("[ --]", 3);
         wrong("[a-\\b]", 3);
         wrong("[a-\\-]", 3);
         wrong("[\\d-a]", 3);
@@ -530,6 +540,13 @@ public final class Term3Test {
                 find("^(a|b)" + times[i] + "$", "ab".repeat(12).substring(0, n), false, want);
             }
         }
+        // the innermost of six groups, which has several pieces
+        for (String sign : new String[] {"*", "+", "{2}", "{1,}", "{0,2}", "{2,3}"}) {
+            find("^((((((ab)" + sign + ")))))$", "abab", false, true);
+            find("^((((((ab)" + sign + ")))))$", "abb", false, false);
+            find("^((((((ab|cd)" + sign + ")))))$", "abcd", false, true);
+            find("^((((((ab)))" + sign + ")))$", "abab", false, true);
+        }
         find("^(a*)*$", "aaa", false, true);
         find("^(a*)+b$", "aab", false, true);
         find("^(a?){3}$", "aaaa", false, false);
@@ -551,6 +568,22 @@ public final class Term3Test {
         find("a|z", "xyz", false, true);
         find("q|", "x", false, true);
         find("ab|bc", "abd", false, true);
+        String[] branches = {"ab", "c", "def", "", "g"};
+        for (int n = 1; n <= branches.length; n++) {
+            String all = String.join("|", java.util.Arrays.copyOf(branches, n));
+            for (int i = 0; i < branches.length; i++) {
+                find("^(" + all + ")$", branches[i], false, i < n);
+                find("^(x(" + all + ")y)$", "x" + branches[i] + "y", false, i < n);
+                find("^(" + all + "){2}$", branches[i] + branches[0], false, i < n);
+                find("^(" + all + ")*$", branches[i] + branches[i] + "ab", false, i < n || branches[i].isEmpty());
+            }
+            find("^(" + all + ")$", "abc", false, false);
+        }
+        for (char c : "abcdefgh".toCharArray()) {
+            find("a|b|c|d|e|f|g|h", "-" + c, false, true);
+            find("^(a|b|(c|d|e)|f|(g|h))$", "" + c, false, true);
+        }
+        find("a|b|c|d|e|f|g|h", "i", false, false);
         find("a", "", false, false);
         find("x".repeat(600), "x".repeat(599), false, false);
         find("x".repeat(600), "y" + "x".repeat(600), false, true);

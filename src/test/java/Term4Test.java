@@ -2,6 +2,7 @@ import java.util.Random;
 
 /** Term 4, sentence by sentence: each place at which a line is wrong, each line that is refused, loading and the order. */
 public final class Term4Test {
+    private static final Desk DESK = new Desk();
     private static final String[] RIGHT = {"clear", "header ABC X-Y /a(b|c)*[d-f]{2,3}\\d/i", "header A B //", "exists A_9 Date", "body A /x/", "raw A /x/i", "uri A /x/", "attach A exe1", "bayes A 12 345",
         "listed A 0 255", "meta A B&&(C||!D)&&G==12+E-3||H<I&&J>1", "count A parts 1 + chars * lines - heads < rcpts = uris & caps | size ! 1 + +", "score A -123.456", "score A 1",
         "priority A -12", "priority A 9", "zone ab-1.c2.d", "grey 3600", "limits 1 2.5 -3.125"};
@@ -34,6 +35,7 @@ public final class Term4Test {
         untilTheseAreTold();
         valuesOfMetas();
         valuesOfPrograms();
+        longestPrograms();
         badMetas();
         badRings();
         badListed();
@@ -41,17 +43,26 @@ public final class Term4Test {
         Desk.end();
     }
 
+    /** What an empty draft answers to a line, whatever stands behind it on the tape. */
+    private static void answers(String line, int want) {
+        for (String behind : new String[] {"", " ", "1", "x", "X", "/", "/i", "i", ")", ".5", " +"}) {
+            DESK.line("clear");
+            DESK.tape(Desk.bytes(line + behind));
+            Desk.due("line " + line + " with " + behind + " behind it", DESK.sieve.line(line.length()), want);
+        }
+    }
+
     private static void wrong(String line, int place) {
-        Desk.due("line " + line, new Desk().line(line), place + 1);
+        answers(line, place + 1);
     }
 
     private static void right(String line) {
-        Desk.due("line " + line, new Desk().line(line), 0);
+        answers(line, 0);
     }
 
     /** Right, but of a name or value that makes the draft refuse it. */
     private static void refused(String line) {
-        Desk.due("line " + line, new Desk().line(line), -2);
+        answers(line, -2);
     }
 
     private static String lettersFor(Desk desk) {
@@ -411,6 +422,7 @@ public final class Term4Test {
         wrong("body A /a**/i", 10);
         wrong("header A x /*/", 12);
         wrong("body A /(a{20}){20}(a{20}){10}b/", 31);
+        wrong("body A /(a{20}){20}(a{20}){10}b", 31);
         right("body A /(a{20}){20}(a{20}){10}/");
     }
 
@@ -719,12 +731,44 @@ public final class Term4Test {
         String body = "--q\n\nAb C\nZ\n--q\n\n[@ http://x\n--q--";
         Desk facts = Desk.with("count A parts 3 =", "count B chars 19 =", "count C lines 3 =", "count D heads 2 =", "count E rcpts 1 =", "count F uris 1 =", "count G caps 3 =", "count H size " + body.length() + " =");
         facts.judge(body, "Content-Type", "multipart/x; boundary=q", "X", "y");
+        int[] values = {3, 19, 3, 2, 1, 1, 3, body.length()};
+        String[] names = {"parts", "chars", "lines", "heads", "rcpts", "uris", "caps", "size"};
+        for (int i = 0; i < names.length; i++) {
+            int v = values[i];
+            Desk each = Desk.with("count A " + names[i] + " " + v + " =", "count B " + names[i] + " " + (v + 1) + " =", "count C " + names[i] + " " + v + " <", "count D " + names[i] + " " + (v + 1) + " <",
+                "count E " + v + " " + names[i] + " <", "count F " + (v - 1) + " " + names[i] + " <", "count G " + names[i] + " " + v + " -", "count H " + names[i], "count I " + names[i] + " !", "count J " + names[i] + " " + names[i] + " + " + 2 * v + " =");
+            // a longer text with letters and lines came before
+            each.judge("AAAA\n".repeat(50) + "http://x ".repeat(5) + "A".repeat(60), "A", "b", "C", "d", "E", "f");
+            each.judge(body, "Content-Type", "multipart/x; boundary=q", "X", "y");
+            Desk.due("count of " + names[i], each.held(0), "0 3 5 7 9");
+        }
         Desk.due("the text", facts.text(0), "Ab C\nZ\n[@ http://x\n");
         Desk.due("its chars", facts.sieve.session(0, 11), 19);
         Desk.due("facts", facts.held(0), "0 1 2 3 4 5 6 7");
     }
 
     // ---- loading
+
+    /** Lines as long as the tape. */
+    private static void longestPrograms() {
+        Desk.of("EXPRESSION and PROGRAM: of any length");
+        Desk desk = Desk.with("count T 1");
+        String sum = "meta A T" + "+T".repeat(1996);
+        Desk.due("a meta of 4,000 signs", sum.length(), 4000);
+        Desk.due("its line", desk.line(sum), 0);
+        Desk.due("one that tells its value", desk.line("meta B T" + "+T".repeat(1980) + "==1981"), 0);
+        Desk.due("one that does not", desk.line("meta C T" + "+T".repeat(1980) + "==1980"), 0);
+        String program = "count D 1" + " 1 +".repeat(997);
+        Desk.due("a count of 3,997 signs", program.length(), 3997);
+        Desk.due("its line", desk.line(program), 0);
+        Desk.due("another", desk.line("count E 1" + " 1 +".repeat(990) + " 991 ="), 0);
+        Desk.due("a third", desk.line("count F 1" + " 1 +".repeat(990) + " 990 ="), 0);
+        // in each of ten groups four are worked out so far
+        Desk.due("the deepest", desk.line("meta G " + "0||1&&1<1+(".repeat(10) + "1" + ")".repeat(10)), 0);
+        Desk.due("the deepest with !", desk.line("meta H " + "0||T&&0<T+!".repeat(10) + "0"), 0);
+        Desk.due("load", desk.sieve.load(), 9);
+        Desk.due("held", desk.judge("").held(0), "0 1 2 4 5 7 8");
+    }
 
     private static void badMetas() {
         Desk.of("a rule is BAD when it is a meta that names a rule that is not there");

@@ -53,8 +53,12 @@ public final class Term5Test {
             Desk.due("learn", desk.sieve.learn(0, true), great == 1 ? -1 : 1);
             Desk.due("S", desk.sieve.state(5), great == 1 ? 0 : 1);
             Desk.due("state", desk.sieve.session(0, 0), 3);
+            for (int what = 4; what <= 7; what++) {
+                Desk.due("no message then: " + what, desk.sieve.session(0, what), 0);
+            }
             desk.give(0, Desk.message("next words"));
             Desk.due("the next one", desk.text(0), "next words\n");
+            Desk.due("it can be learnt", desk.sieve.learn(0, true), great == 1 ? 2 : 3);
         }
     }
 
@@ -83,6 +87,21 @@ public final class Term5Test {
         desk.meet(3, "10.0.0.1");
         desk.give(3, Desk.message("x"));
         Desk.due("another session's query for the same", desk.sieve.session(3, 0), 8);
+        for (int last = 0; last < 3; last++) {
+            desk = Desk.with("zone a", "zone b", "zone c", "listed A 2 255");
+            desk.meet(0, "10.0.0.1");
+            for (int k = 2; k >= 0; k--) {
+                if (k != last) {
+                    desk.answer(answerTo(desk, k, 2));
+                }
+            }
+            desk.give(0, Desk.message("x"));
+            Desk.due("of three zones only zone " + last + " is open", desk.sieve.session(0, 0), 8);
+            desk.answer(answerTo(desk, 0, 2));
+            Desk.due("none of three zones is open", desk.sieve.session(0, 0), 3);
+            desk.give(0, Desk.message("x"));
+            Desk.due("judged at once", desk.sieve.session(0, 0), 3);
+        }
     }
 
     /** An answer to the k-th query with a code and no records. */
@@ -103,6 +122,7 @@ public final class Term5Test {
         held("5", lines, "", "X-Some", "");
         held("", lines, "one");
         held("", lines, "", "X-Some ", "one");
+        held("", lines, "", "Y-Some", "one", "XxSome", "one", "X-Somf", "one");
         held("1", lines, "", "X-Some", "=?us-ascii?Q?two?=");
         held("6", lines, "", "X-Some", "=?us-ascii?Q?two?=x=");
     }
@@ -112,6 +132,7 @@ public final class Term5Test {
         String[] lines = {"exists A X-Y", "exists B x-y", "exists C X", "exists D X-Yz"};
         held("0 1", lines, "", "x-Y", "");
         held("2", lines, "", "X", "");
+        held("", lines, "", "Y", "", "XxY", "", "Y-Y", "");
         held("", lines, "X-Y: z");
     }
 
@@ -147,6 +168,9 @@ public final class Term5Test {
         attach(false, "exe", "a.exe ");
         attach(false, "exe", "a.exe.zip");
         attach(false, "exe", "a.xe");
+        attach(false, "exe", "a.xxe");
+        attach(false, "exe", "a.eee");
+        attach(false, "exe", "a.exx");
         attach(false, "exe", "a.eexe");
         attach(false, "exe", "");
         attach(false, "exe", ".");
@@ -157,6 +181,7 @@ public final class Term5Test {
         attach(false, "12345678", "a12345678");
         attach(false, "2345678", "a.12345678");
         attach(true, "b", "\u00e9.b");
+        attachmentsOfOneMessage();
         held("", new String[] {"attach A exe"}, "x", TYPE, "text/plain; name=a.exe");
         held("", new String[] {"attach A exe"}, "x", TYPE, "text/html; name=a.exe");
         held("", new String[] {"attach A exe"}, "x", TYPE, "a/b; filename=a.exe");
@@ -165,6 +190,20 @@ public final class Term5Test {
         held("0", new String[] {"attach A exe"}, "x", TYPE, "text/x; name=a.exe");
         held("", new String[] {"attach A exe"}, "--q--", TYPE, "multipart/x; boundary=q; name=a.exe");
         held("0 1", new String[] {"attach A exe", "attach B zip"}, "--q\n" + TYPE + ": a/b; name=a.exe\n\n--q\n" + TYPE + ": a/b; name=b.zip\n\n--q--", TYPE, "multipart/x; boundary=q");
+    }
+
+    /** What one message had, the next one has not. */
+    private static void attachmentsOfOneMessage() {
+        Desk desk = Desk.with("attach A exe");
+        String[] types = {"a/b; name=a.exe", "text/plain", "a/b; name=a.exe", "a/b", "a/b; name=a.exe", "text/html; name=a.exe"};
+        String[] helds = {"0", "", "0", "", "0", ""};
+        for (int i = 0; i < types.length; i++) {
+            Desk.due("held of " + types[i], desk.judge("x", TYPE, types[i]).held(0), helds[i]);
+            String parted = "--q\n" + TYPE + ": text/plain\n\nx\n--q\n" + TYPE + ": " + types[i] + "\n\nx\n--q--";
+            Desk.due("held of a part of " + types[i], desk.judge(parted, TYPE, "multipart/x; boundary=q").held(0), helds[i]);
+        }
+        desk.judge("--q\n" + TYPE + ": a/b; name=a.exe\n\nx\n--q--", TYPE, "multipart/x; boundary=q");
+        Desk.due("fewer parts", desk.judge("x").held(0), "");
     }
 
     private static void bayesRules() {
@@ -215,6 +254,14 @@ public final class Term5Test {
         desk.meet(1, "");
         desk.give(1, Desk.message("x"));
         Desk.due("without an address", desk.held(1), "");
+        desk = Desk.with("zone a", "listed A 0 255");
+        desk.meet(0, "10.0.0.1");
+        query = answerTo(desk, 0, 0);
+        desk.answer(query.substring(0, 7) + "\u0001" + query.substring(8) + "\0\0\u0001\0\u0001\0\0\0\u0009\0\u0004\u007f\0\0\u0001");
+        desk.give(0, Desk.message("x"));
+        Desk.due("with its address", desk.held(0), "0");
+        desk.give(0, Desk.packet('K', "") + Desk.client("") + Desk.message("x"));
+        Desk.due("with an address no more", desk.held(0), "");
     }
 
     // ---- scores and replies

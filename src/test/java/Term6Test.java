@@ -7,6 +7,7 @@ public final class Term6Test {
         oldOnesGo();
         threeOfTheNetwork();
         passedOnesThatWent();
+        thoseBehindOneThatGoes();
         delays();
         windows();
         passedOnesHaveNoWindow();
@@ -93,6 +94,12 @@ public final class Term6Test {
         Desk.of("A TRIPLET is the DIGEST of the address's first three numbers (bytes), the sender's bytes, SMALL, a 0, and the recipient's, SMALL");
         same("the same", true, "10.20.30.40", "Send@X", "Rcpt@Y");
         same("the last number does not count", true, "10.20.30.41", "Send@X", "Rcpt@Y");
+        for (int bit = 1; bit < 256; bit *= 2) {
+            same("no bit of the last number does", true, "10.20.30." + (40 ^ bit), "Send@X", "Rcpt@Y");
+            same("each bit of the third does", false, "10.20." + (30 ^ bit) + ".40", "Send@X", "Rcpt@Y");
+            same("each bit of the second does", false, "10." + (20 ^ bit) + ".30.40", "Send@X", "Rcpt@Y");
+            same("each bit of the first does", false, (10 ^ bit) + ".20.30.40", "Send@X", "Rcpt@Y");
+        }
         same("the third does", false, "10.20.31.40", "Send@X", "Rcpt@Y");
         same("the second does", false, "10.21.30.40", "Send@X", "Rcpt@Y");
         same("the first does", false, "11.20.30.40", "Send@X", "Rcpt@Y");
@@ -100,6 +107,12 @@ public final class Term6Test {
         same("another sender", false, "10.20.30.40", "Send@Z", "Rcpt@Y");
         same("another recipient", false, "10.20.30.40", "Send@X", "Rcpt@Z");
         same("a 0 between", false, "10.20.30.40", "Send@XR", "cpt@Y");
+        for (int b = 1; b < 256; b++) {
+            Desk desk = grey(1, "10.0.0.1");
+            ask(desk, "a", "b" + (char) b + "c");
+            desk.sieve.tick(1);
+            Desk.due("no other byte between, as " + b, ask(desk, "a" + (char) b + "b", "c"), "t");
+        }
         same("one and the other", false, "10.20.30.40", "Rcpt@Y", "Send@X");
         same("other signs are not made small", false, "10.20.30.40", "Send`X", "Rcpt@Y");
         Desk desk = grey(1, "10.0.0.1");
@@ -205,7 +218,45 @@ public final class Term6Test {
             tick(desk, 86400 + more);
             ask("a new one behind " + more, desk, "new", more == 0 ? "c" : "t");
             Desk.due("triplets", desk.sieve.state(11), more == 0 ? 3 : 1);
+            if (more == 1) {
+                ask("another one", desk, "new2", "t");
+                ask("a third one", desk, "new3", "t");
+                ask("a fourth one: none of these has passed", desk, "new4", "t");
+                tick(desk, 14401);
+                ask("nor was the first", desk, "new", "t");
+            }
         }
+    }
+
+    private static void thoseBehindOneThatGoes() {
+        Desk.of("each with FIRST and LAST times, PASSED or not, and the NETWORK: those behind one that goes keep theirs");
+        Desk desk = grey(60, "10.0.0.1");
+        ask("one", desk, "one", "t");
+        tick(desk, 50000);
+        desk.meet(0, "10.0.1.1");
+        for (int i = 0; i < 4; i++) {
+            ask("r" + i, desk, "r" + i, "t");
+        }
+        tick(desk, 60);
+        for (int i = 0; i < 2; i++) {
+            ask("r" + i + " passes", desk, "r" + i, "c");
+        }
+        tick(desk, 36341);
+        desk.meet(0, "10.0.2.1");
+        ask("one goes", desk, "x", "t");
+        Desk.due("the others stay", desk.sieve.state(11), 5);
+        ask("their LAST stays", desk, "y", "t");
+        Desk.due("all of them", desk.sieve.state(11), 6);
+        desk.meet(0, "10.0.1.1");
+        ask("r0 has PASSED", desk, "r0", "c");
+        ask("r1 has PASSED", desk, "r1", "c");
+        ask("r2 has not, and its FIRST is long ago", desk, "r2", "t");
+        tick(desk, 60);
+        ask("r2 passes", desk, "r2", "c");
+        ask("three of their network", desk, "z", "c");
+        Desk.due("nothing came", desk.sieve.state(11), 6);
+        desk.meet(0, "10.0.0.1");
+        ask("none of the first network", desk, "z", "t");
     }
 
     private static void delays() {

@@ -25,6 +25,7 @@ public final class Term7Test {
         lives();
         theCacheInARow();
         theCacheOfSixteen();
+        whatGoesOn();
         whoGoesOn();
         Desk.end();
     }
@@ -159,7 +160,15 @@ public final class Term7Test {
         Desk.due("one is answered", desk.answer(reply(query(desk, 5), 128, 2, 0, "")), 1);
         desk.meet(0, "1.2.3.13");
         Desk.due("room for one", query(desk, 11), packet(13, "13.3.2.1.a"));
-        Desk.due("those behind the answered one moved up", query(desk, 5), packet(7, "2.3.2.1.a"));
+        String[] names = {"0.3.2.1.a", "0.3.2.1.b", "0.3.2.1.c", "1.3.2.1.a", "1.3.2.1.b", "2.3.2.1.a", "2.3.2.1.b", "2.3.2.1.c", "10.3.2.1.a", "11.3.2.1.a", "12.3.2.1.a", "13.3.2.1.a"};
+        for (int k = 0; k < 12; k++) {
+            Desk.due("the others stay, query " + k, query(desk, k), packet(k < 5 ? k + 1 : k + 2, names[k]));
+        }
+        Desk.due("no query 12", desk.sieve.query(12, 0), -1);
+        desk.sieve.tick(5);
+        for (int k = 0; k <= 12; k++) {
+            Desk.due("over: query " + k, desk.sieve.query(k, 0), -1);
+        }
     }
 
     private static void ids() {
@@ -187,6 +196,11 @@ public final class Term7Test {
         desk.meet(0, "");
         for (int i = 0; i < 65532 / 12; i++) {
             desk.give(0, all.toString());
+            if (i % 50 == 21 || i == 65532 / 12 - 1) {
+                for (int k = 0; k < 12; k++) {
+                    Desk.due("id of round " + i, desk.sieve.query(k, 0) * 256 + desk.sieve.query(k, 1), 12 * i + k + 1);
+                }
+            }
             desk.sieve.tick(5);
             desk.sieve.clear(0);
         }
@@ -221,15 +235,32 @@ public final class Term7Test {
         Desk.due("the older one is over", query(desk, 0), packet(2, "5.3.2.1.a"));
         desk.sieve.tick(3);
         Desk.due("and the younger one", desk.sieve.state(9), 0);
+        desk = zones("a");
+        desk.meet(0, "1.2.3.4");
+        desk.sieve.tick(3);
+        desk.meet(0, "1.2.3.5");
+        desk.answer(reply(query(desk, 0), 128, 2, 0, ""));
+        desk.sieve.tick(4);
+        Desk.due("one behind an answered one keeps its time", desk.sieve.state(9), 1);
+        desk.sieve.tick(1);
+        Desk.due("and is over in time", desk.sieve.state(9), 0);
     }
 
     // ---- answers
 
     /** Whether an answer to the query for 10.0.0.1 in the zone Ab.c is taken; nothing is done when it is not. */
     private static void taken(String what, boolean want, String packet) {
+        for (String behind : new String[] {"", "\0".repeat(80), good().substring(Math.min(packet.length(), good().length()))}) {
+            taken(what, want, packet, behind);
+        }
+    }
+
+    /** The bytes behind the packet on the tape are none of it. */
+    private static void taken(String what, boolean want, String packet, String behind) {
         Desk desk = zones("xy.z");
         desk.meet(0, "10.0.0.1");
-        Desk.due("taken: " + what, desk.answer(packet), want ? 1 : 0);
+        desk.tape(Desk.bytes(packet + behind));
+        Desk.due("taken: " + what, desk.sieve.answer(packet.length()), want ? 1 : 0);
         Desk.due("the tape behind it: " + what, desk.sieve.state(12), 0);
         Desk.due("open: " + what, desk.sieve.state(9), want ? 0 : 1);
         if (!want) {
@@ -338,6 +369,10 @@ public final class Term7Test {
         for (String name : right) {
             taken("the name " + name, true, reply(first(), 128, 0, 1, name + rest));
         }
+        for (int length = 64; length < 256; length++) {
+            taken("two bytes, the first of them " + length, length >= 192, reply(first(), 128, 0, 1, (char) length + "\u000c" + rest));
+            taken("two bytes behind a label, the first of them " + length, length >= 192, reply(first(), 128, 0, 1, "\u0001a" + (char) length + "\u000c" + rest));
+        }
         for (int length : new int[] {64, 65, 127, 128, 190, 191}) {
             taken("a label of " + length, false, reply(first(), 128, 0, 1, (char) length + "a".repeat(length) + "\0" + rest));
             taken("a label of " + length + " behind another", false, reply(first(), 128, 0, 1, "\u0001a" + (char) length + "a".repeat(length) + "\0" + rest));
@@ -444,6 +479,7 @@ public final class Term7Test {
         good("without any of type 1", 60, 1, record("\0\0\u0005\0\u0001", life(7), two));
         good("without any of class 1", 60, 1, record("\0\0\u0001\0\u0003", life(700), two));
         good("0 is the least", 0, 2, record(A, life(100), two) + record(A, life(0), two));
+        good("0 is the least, first", 0, 2, record(A, life(0), two) + record(A, life(100), two));
     }
 
     // ---- the cache
@@ -497,7 +533,7 @@ public final class Term7Test {
 
     private static void theCacheOfSixteen() {
         Desk.of("at most 16 values in a row; or comes at the end (of 16 the one with the least end, of these the first, goes ahead)");
-        int[][] least = {{0}, {15}, {7}, {3, 9}, {0, 15}, {9, 10}};
+        int[][] least = {{0}, {1}, {15}, {7}, {3, 9}, {0, 15}, {9, 10}, {1, 2}};
         for (int[] old : least) {
             Desk desk = zones("a");
             for (int i = 0; i < 16; i++) {
@@ -519,6 +555,26 @@ public final class Term7Test {
             Desk.due("the other one stayed", isThere(desk, old[old.length - 1]), old.length > 1);
             Desk.due("the new one is there", isThere(desk, 101), true);
         }
+        // those behind the one that goes keep their bits
+        Desk shifted = Desk.with("zone a", "listed A 0 1", "listed B 0 2", "listed C 0 4");
+        for (int i = 0; i < 17; i++) {
+            put(shifted, i, i == 4 ? 500 : 1000, 1 << i % 3);
+        }
+        for (int i = 0; i < 17; i++) {
+            if (i != 4) {
+                shifted.meet(0, "10.0.0." + i);
+                shifted.give(0, Desk.message(""));
+                Desk.due("the bits of " + i, shifted.held(0), "" + i % 3);
+            }
+        }
+        // a name of another length was looked up since
+        Desk other = zones("a");
+        put(other, 1, 1, 1);
+        other.sieve.tick(1);
+        other.meet(0, "10.0.0.1");
+        other.meet(1, "100.100.100.100");
+        other.answer(reply(query(other, 0), 128, 3, 0, ""));
+        Desk.due("the same place", other.sieve.state(10), 1);
         // of 16 a value of the same address and zone needs no room
         Desk desk = zones("a");
         for (int i = 0; i < 16; i++) {
@@ -530,6 +586,24 @@ public final class Term7Test {
         for (int i = 0; i < 16; i++) {
             Desk.due("all are there: " + i, isThere(desk, i), true);
         }
+    }
+
+    /** Each session that goes on judges its own message. */
+    private static void whatGoesOn() {
+        Desk.of("then the rules are gone through, of the message that waited");
+        Desk desk = zones("a");
+        String[] words = {"first words", "second words here", "third"};
+        for (int s = 0; s < 3; s++) {
+            desk.meet(s, "10.0.0.1");
+            desk.give(s, Desk.message(words[s], "Subject", "s" + s));
+        }
+        desk.meet(3, "");
+        desk.give(3, Desk.message("another, judged at once"));
+        desk.sieve.tick(5);
+        for (int s = 0; s < 3; s++) {
+            Desk.due("the text of " + s, desk.text(s), words[s] + "\n");
+        }
+        Desk.due("the other one", desk.text(3), "another, judged at once\n");
     }
 
     private static void whoGoesOn() {
