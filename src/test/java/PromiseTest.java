@@ -593,6 +593,7 @@ public final class PromiseTest {
         Desk.due("wrong at 0", desk.find("/", "", false), -2);
         Desk.due("4,000 bytes", desk.find("a", "b".repeat(3998) + "a", false), 1);
         Desk.due("an expression of 3,999", desk.find("[" + "a".repeat(3996) + "b]", "b", false), 1);
+        Desk.due("nothing in 4,000 bytes", desk.find("", "b".repeat(4000), false), 1);
         Desk.due("wrong at 4,000", desk.find("[" + "a".repeat(3999), "", false), -4002);
         nothing("a find of nothing on an empty tape", new Desk(), x -> x.find(0, 0, false));
     }

@@ -1025,15 +1025,25 @@ public final class Term2Test {
 
     // ---- what ends too soon, behind a message that did not
 
+    /** What is told of a message, with the digests of its tokens. */
     private static String told(Desk desk) {
-        return desk.text(0) + " " + desk.held(0) + " " + desk.sieve.session(0, 10) + " " + desk.sieve.session(0, 11) + " " + desk.sieve.session(0, 12) + " " + desk.sieve.session(0, 13);
+        StringBuilder all = new StringBuilder(desk.text(0) + " " + desk.held(0));
+        for (int what = 10; what <= 13; what++) {
+            all.append(' ').append(desk.sieve.session(0, what));
+        }
+        int from = desk.sieve.compact();
+        desk.sieve.learn(0, true);
+        for (int i = from; i < desk.sieve.state(7); i++) {
+            all.append(' ').append(desk.sieve.journal(i));
+        }
+        return all.toString();
     }
 
     private static void cutBodies() {
         Desk.of("LINES end with 13 10 or 10 (or the end); (to the end without one): at each place");
         String[] types = {"multipart/x; boundary=q", "text/html; charset=utf-8", "text/plain; charset=utf-8", "text/html"};
         String[] codings = {"7bit", "7bit", "quoted-printable", "base64"};
-        String html = "a<br>b<script>x</script>c&amp;&#65;&nbsp;<!-- x -->\u00c3\u00a9\u00e2\u0082\u00ac\u00f0\u009f\u0098\u0080<a href=\"http://h.x/y\">z</a>http://i.j/k (https://l) 'm'";
+        String html = "a<br>b<script>x</script>c&amp;&#65;&nbsp;<!-- x -->\u00c3\u00a9\u00e2\u0082\u00ac\u00f0\u009f\u0098\u0080<a href=\"http://h.x/y\">z</a>http://i.j/k (https://l) 'm'<a href=\"http://last.one/\"";
         String[] bodies = {
             "a\r\n--q\r\nContent-Type: text/html;\r\n charset=\"utf-8\"\r\nContent-Transfer-Encoding: base64\r\n\r\nPGI+eA==\r\n--q \r\n\r\nplain\r\n--q\r\nContent-Type: a/b; name=c.exe\r\n\r\nx\r\n--q--\r\nout",
             html, "a=41=\r\nb =  \r\nc \r\n=C3=A9=E2=82=AC d=3D", Base64.getEncoder().encodeToString(Desk.bytes(html))};
