@@ -30,6 +30,7 @@ public final class Term8Test {
         strengths();
         theFifteenStrongest();
         theEarlierToken();
+        chiIsAtMostOne();
         Desk.end();
     }
 
@@ -635,14 +636,7 @@ public final class Term8Test {
     }
 
     private static double chi(double x, int k) {
-        double m = -ln(x);
-        double sum = 1.0;
-        double term = 1.0;
-        for (int i = 1; i <= k - 1; i++) {
-            term = term * m / i;
-            sum = sum + term;
-        }
-        return x * sum > 1.0 ? 1.0 : x * sum;
+        return uncapped(x, k) > 1.0 ? 1.0 : uncapped(x, k);
     }
 
     private static double ln(double value) {
@@ -746,5 +740,44 @@ public final class Term8Test {
                 Desk.due("indicator of " + spams + ", turned " + turned, desk.sieve.indicator(0), indicator(weights));
             }
         }
+    }
+
+    private static void chiIsAtMostOne() {
+        Desk.of("CHI(X): X * sum, but 1.0 when that is above it");
+        int above = 0;
+        for (int words = 2; words <= 15; words++) {
+            Desk desk = met();
+            learn(desk, "ham", false);
+            for (int n = 1; n <= 130; n++) {
+                learn(desk, words(1000, 1000 + words), true);
+                desk.sieve.compact();
+                List<Double> weights = new ArrayList<>();
+                double p = 1.0;
+                double q = 1.0;
+                for (int i = 0; i < words; i++) {
+                    weights.add(weight(n, 0, n, 1));
+                    p = p * weight(n, 0, n, 1);
+                    q = q * (1.0 - weight(n, 0, n, 1));
+                }
+                desk.give(0, Desk.message(words(1000, 1000 + words)));
+                desk.sieve.clear(0);
+                Desk.due("indicator of " + words + " words learnt " + n + " times", desk.sieve.indicator(0), indicator(weights));
+                double capped = (1.0 + chi(p, words) - chi(q, words)) / 2.0;
+                double free = (1.0 + uncapped(p, words) - uncapped(q, words)) / 2.0;
+                above += free != capped ? 1 : 0;
+            }
+        }
+        Desk.due("it was above in some", above > 5, true);
+    }
+
+    private static double uncapped(double x, int k) {
+        double m = -ln(x);
+        double sum = 1.0;
+        double term = 1.0;
+        for (int i = 1; i <= k - 1; i++) {
+            term = term * m / i;
+            sum = sum + term;
+        }
+        return x * sum;
     }
 }
