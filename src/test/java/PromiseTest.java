@@ -571,7 +571,8 @@ public final class PromiseTest {
 
     private static void find() {
         Desk.of("Promise 19: 1 it is found in it, 0 it is not; -2 less the place at which it is wrong (a byte that is not 32 to 126, or is /, is wrong). -1, doing nothing, when n or m is below 0, or both are more than there are");
-        int[][] refused = {{-1, 0}, {0, -1}, {-1, 1}, {1, -1}, {21, 0}, {0, 21}, {20, 1}, {10, 11}, {Integer.MAX_VALUE, 1}, {1, Integer.MAX_VALUE}, {Integer.MAX_VALUE, Integer.MAX_VALUE}, {Integer.MIN_VALUE, 5}, {5, Integer.MIN_VALUE},
+        int[][] refused = {{-1, 0}, {0, -1}, {-1, 1}, {1, -1}, {21, 0}, {0, 21}, {20, 1}, {10, 11}, {Integer.MAX_VALUE, 1}, {1, Integer.MAX_VALUE},
+            {Integer.MAX_VALUE, Integer.MAX_VALUE}, {Integer.MIN_VALUE, 5}, {5, Integer.MIN_VALUE},
             {Integer.MIN_VALUE, Integer.MIN_VALUE}};
         for (int[] nm : refused) {
             Desk.due("find " + nm[0] + " " + nm[1], busy().sieve.find(nm[0], nm[1], false), -1);
@@ -635,7 +636,8 @@ public final class PromiseTest {
         for (int what = 0; what <= 13; what++) {
             Desk.due("session " + what + " of one that began", desk.sieve.session(0, what), begun[what]);
         }
-        desk.give(0, Desk.packet('R', "a\0").repeat(2) + Desk.packet('L', "a\0b\0").repeat(3) + Desk.packet('N', "") + Desk.packet('B', "word http://h") + "\0\0\0\u0009U");
+        desk.give(0, Desk.packet('R', "a\0").repeat(2) + Desk.packet('L', "a\0b\0").repeat(3) + Desk.packet('N', "") + Desk.packet('B',
+            "word http://h") + "\0\0\0\u0009U");
         int[] grown = {7, 0x20, desk.sieve.session(0, 2), 5, 2, 3, 13, 0, 0, 0, 0, 0, 0, 0};
         for (int what = 0; what <= 13; what++) {
             Desk.due("session " + what + " of one that grew", desk.sieve.session(0, what), grown[what]);
@@ -723,7 +725,8 @@ public final class PromiseTest {
         int[] want = {-1, 2, 1, 77, -1};
         for (int what = -1; what <= 3; what++) {
             Desk.due("entry " + what, desk.sieve.entry(Desk.digest("word"), what), want[what + 1]);
-            for (long digest : new long[] {0, -1, 1, Desk.digest("word") + 1, Long.MIN_VALUE, Long.MAX_VALUE, (int) Desk.digest("word"), Desk.digest("word") ^ 1L << 63}) {
+            for (long digest : new long[] {0, -1, 1, Desk.digest("word") + 1, Long.MIN_VALUE, Long.MAX_VALUE, (int) Desk.digest("word"),
+                Desk.digest("word") ^ 1L << 63}) {
                 Desk.due("entry of " + digest, desk.sieve.entry(digest, what), -1);
             }
         }

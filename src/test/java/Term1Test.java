@@ -200,7 +200,8 @@ public final class Term1Test {
                 Desk.due("no reply to command " + c, desk.sieve.session(0, 2), 22);
             }
         }
-        String[] data = {Desk.number(6) + Desk.number(0) + Desk.number(0), "x", "", "h\0U", "x\0", "a\0", "a\0", "", "a\0b\0", "", "", "", "", "", ""};
+        String[] data = {Desk.number(6) + Desk.number(0) + Desk.number(0), "x", "", "h\0U", "x\0", "a\0", "a\0", "", "a\0b\0", "", "", "", "", "",
+            ""};
         String[] replies = {"O", "", "c", "c", "c", "c", "c", "c", "c", "c", "c", "a", "", "", ""};
         int[][] next = {
             {2, 0, 0, 0, 0, 0, 0}, {0, 2, 3, 4, 5, 6, 7}, {0, 0, 3, 4, 5, 6, 7}, {0, 3, 0, 0, 0, 0, 0}, {0, 0, 3, 0, 0, 0, 0},
@@ -289,7 +290,8 @@ public final class Term1Test {
         for (int rest = 4; rest <= 5; rest++) {
             Desk great = filled(8192 - rest - 60);
             great.give(0, RCPT.substring(MET.length()) + Desk.packet('L', "a\0b\0") + Desk.packet('N', "") + Desk.packet('E', "judged"));
-            great.give(0, RCPT.substring(MET.length()) + Desk.packet('L', "n\0" + "v".repeat(2000) + "\0").repeat(2) + Desk.packet('N', "") + BEAT.repeat(2));
+            great.give(0, RCPT.substring(MET.length()) + Desk.packet('L', "n\0" + "v".repeat(2000) + "\0").repeat(2) + Desk.packet('N', "")
+                + BEAT.repeat(2));
             Desk.due("a great one with " + rest + " left", great.sieve.session(0, 2), 8192 - rest);
             Desk.due("judged before", great.sieve.indicator(0), 0.5);
             great.give(0, Desk.packet('E', ""));
@@ -375,12 +377,15 @@ public final class Term1Test {
 
     private static void clients() {
         Desk.of("C: a string, the host; a byte, the FAMILY; U: nothing behind; L, 4 or 6: two bytes, a string, the address");
-        String[] right = {"\0U", "h\0U", "h\0L\0\0\0", "h\0L\0\u0019path\0", "h\0006\0\u0019\0", "h\0006\u00ff\u00ff::1\0", "h\0004\0\0" + "1.2.3.4\0", "\0004\u0019\0" + "1.2.3.4\0"};
+        String[] right = {"\0U", "h\0U", "h\0L\0\0\0", "h\0L\0\u0019path\0", "h\0006\0\u0019\0", "h\0006\u00ff\u00ff::1\0", "h\0004\0\0"
+            + "1.2.3.4\0", "\0004\u0019\0" + "1.2.3.4\0"};
         for (String data : right) {
             step(READY, 'C', data, 3, "c");
         }
-        String[] wrong = {"", "h", "U", "h\0", "\0", "h\0U\0", "h\0Ux", "h\0u", "h\0l\0\0x\0", "h\0005\0\0x\0", "h\0L", "h\0L\0", "h\0L\0\0", "h\0L\0\0x", "h\0L\0\0x\0\0", "h\0L\0\0x\0y\0",
-            "h\0006", "h\0006\0\0", "h\0006\0\0::1", "h\0004", "h\0004\0", "h\0004\0\0", "h\0004\0\0" + "1.2.3.4", "h\0004\0\0" + "1.2.3.4\0x", "h\0\0", "h\0\u00ff\0\0x\0"};
+        String[] wrong = {"", "h", "U", "h\0", "\0", "h\0U\0", "h\0Ux", "h\0u", "h\0l\0\0x\0", "h\0005\0\0x\0", "h\0L", "h\0L\0", "h\0L\0\0",
+            "h\0L\0\0x", "h\0L\0\0x\0\0", "h\0L\0\0x\0y\0",
+            "h\0006", "h\0006\0\0", "h\0006\0\0::1", "h\0004", "h\0004\0", "h\0004\0\0", "h\0004\0\0" + "1.2.3.4", "h\0004\0\0" + "1.2.3.4\0x",
+                "h\0\0", "h\0\u00ff\0\0x\0"};
         for (String data : wrong) {
             step(READY, 'C', data, 0, "");
         }
@@ -392,8 +397,10 @@ public final class Term1Test {
         for (String address : right) {
             step(READY, 'C', "h\0004\0\0" + address + "\0", 3, "c");
         }
-        String[] wrong = {"", ".", "...", "1", "1.2", "1.2.3", "1.2.3.", ".1.2.3", "1..2.3", "1.2.3.4.", ".1.2.3.4", "1.2.3.4.5", "256.0.0.1", "1.256.0.1", "1.1.256.1", "1.1.1.256",
-            "1.1.1.260", "1.1.1.300", "1.1.1.999", "1.1.1.1000", "1.1.1.2550", "00.1.1.1", "1.01.1.1", "1.1.001.1", "1.1.1.00", "1.1.1.010", "-1.1.1.1", "+1.1.1.1", " 1.1.1.1", "1.1.1.1 ",
+        String[] wrong = {"", ".", "...", "1", "1.2", "1.2.3", "1.2.3.", ".1.2.3", "1..2.3", "1.2.3.4.", ".1.2.3.4", "1.2.3.4.5", "256.0.0.1",
+            "1.256.0.1", "1.1.256.1", "1.1.1.256",
+            "1.1.1.260", "1.1.1.300", "1.1.1.999", "1.1.1.1000", "1.1.1.2550", "00.1.1.1", "1.01.1.1", "1.1.001.1", "1.1.1.00", "1.1.1.010",
+                "-1.1.1.1", "+1.1.1.1", " 1.1.1.1", "1.1.1.1 ",
             "1.1.1.a", "a.1.1.1", "1,1,1,1", "1.1.1./", "1.1.1.:", "1.1.1.4294967297"};
         for (String address : wrong) {
             step(READY, 'C', "h\0004\0\0" + address + "\0", 0, "");
@@ -613,7 +620,8 @@ public final class Term1Test {
     private static void whileWaiting() {
         Desk.of("the states in which they may come: WAITING");
         String letters = "ODUCHMRTLNBEAKQ";
-        String[] data = {Desk.number(6) + Desk.number(0) + Desk.number(0), "x", "", "h\0U", "x\0", "a\0", "a\0", "", "a\0b\0", "", "", "", "", "", ""};
+        String[] data = {Desk.number(6) + Desk.number(0) + Desk.number(0), "x", "", "h\0U", "x\0", "a\0", "a\0", "", "a\0b\0", "", "", "", "", "",
+            ""};
         for (int c = 0; c < letters.length(); c++) {
             Desk desk = Desk.with("zone a");
             desk.meet(0, "10.0.0.1");

@@ -95,7 +95,8 @@ public final class Term2Test {
         for (int[] row : names) {
             for (int more = -1; more <= 1; more++) {
                 // several headers, the last of which makes 3,999, 4,000 or 4,001 bytes
-                Desk desk = Desk.in(BEGUN + header("n".repeat(500), "\r\n \t".repeat(125)) + header("n".repeat(row[0] / 2), "v".repeat(1000 - row[0] / 2)));
+                Desk desk = Desk.in(BEGUN + header("n".repeat(500), "\r\n \t".repeat(125)) + header("n".repeat(row[0] / 2),
+                    "v".repeat(1000 - row[0] / 2)));
                 desk.give(0, header("", "w".repeat(1000)) + header("", "x".repeat(999 + more)));
                 kept(desk, "3,999 and " + more, 4, 0, 0);
                 desk.give(0, header("y", ""));
@@ -132,7 +133,8 @@ public final class Term2Test {
     /** Checks the CHARS of a header by an expression, and those of a subject by its tokens, too. */
     private static void chars(String value, String want) {
         StringBuilder expression = new StringBuilder();
-        want.codePoints().forEach(c -> expression.append(c > 126 || c < 9 ? "[^ -~]" : c == 9 ? "\\t" : c == 10 ? "\\n" : Character.isLetterOrDigit(c) ? "" + (char) c : "\\" + (char) c));
+        want.codePoints().forEach(c -> expression.append(c > 126
+            || c < 9 ? "[^ -~]" : c == 9 ? "\\t" : c == 10 ? "\\n" : Character.isLetterOrDigit(c) ? "" + (char) c : "\\" + (char) c));
         Desk desk = Desk.with("header A Subject /^" + expression.toString().replace("\\/", ".") + "$/");
         desk.judge("", "subject", value);
         Desk.due("CHARS of " + value, desk.held(0), "0");
@@ -218,7 +220,8 @@ public final class Term2Test {
                 whole = bytes.charAt(i + k) >= 128 && bytes.charAt(i + k) <= 191;
                 joined = joined * 64 + (bytes.charAt(i + k) & 63);
             }
-            if (whole && !(more == 2 && joined < 2048) && !(more == 3 && joined < 65536) && !(joined >= 55296 && joined <= 57343) && joined <= 1114111) {
+            if (whole && !(more == 2 && joined < 2048) && !(more == 3 && joined < 65536) && !(joined >= 55296 && joined <= 57343)
+                && joined <= 1114111) {
                 c = joined;
                 i += more;
             }
@@ -326,7 +329,8 @@ public final class Term2Test {
         }
         coded("quoted-printable", "\u00fa\u00af\u0090J", "=fa=aF=90=4a");
         Desk.of("other = are themselves");
-        for (String none : new String[] {"=4", "=4G", "=G4", "=/0", "=:0", "=@0", "=`0", "=g0", "=0/", "=0:", "=0@", "=0`", "=0g", "==", "=x", "= x", "= =", "=\u00c10"}) {
+        for (String none : new String[] {"=4", "=4G", "=G4", "=/0", "=:0", "=@0", "=`0", "=g0", "=0/", "=0:", "=0@", "=0`", "=0g", "==", "=x", "= x",
+            "= =", "=\u00c10"}) {
             coded("quoted-printable", "a" + none + ".", "a" + none + ".");
         }
         coded("quoted-printable", "a=A", "a==41");
@@ -345,8 +349,10 @@ public final class Term2Test {
         coded("quoted-printable", "a\nb", "a=\n\nb");
         Desk.of("blanks ahead of a line's end or the end are left out");
         // the raw text shows them, the text would leave them out in any case
-        String[][] rows = {{"a \\n", "a \r\nb", ""}, {"a\\t", "a\t\nb", ""}, {"a \\n", "a  ", ""}, {"a \\n", "a =\nb", ""}, {"a b", "a =\nb", "0"}, {"a \\n", "a=20\nb", "0"},
-            {"a b", "a b", "0"}, {"a \\t b", "a \t b", "0"}, {"a  ", "a  \rb", "0"}, {"a\\nb", "a \t \nb", "0"}, {"a\\n$", "a \t ", "0"}, {"^\\n", " \n", "0"}, {"a $", "a=20", "0"}};
+        String[][] rows = {{"a \\n", "a \r\nb", ""}, {"a\\t", "a\t\nb", ""}, {"a \\n", "a  ", ""}, {"a \\n", "a =\nb", ""}, {"a b", "a =\nb", "0"},
+            {"a \\n", "a=20\nb", "0"},
+            {"a b", "a b", "0"}, {"a \\t b", "a \t b", "0"}, {"a  ", "a  \rb", "0"}, {"a\\nb", "a \t \nb", "0"}, {"a\\n$", "a \t ", "0"}, {"^\\n",
+                " \n", "0"}, {"a $", "a=20", "0"}};
         for (String[] row : rows) {
             Desk desk = Desk.with("raw A /" + row[0] + "/").judge(row[1], CODING, "quoted-printable");
             Desk.due("raw " + row[0] + " in " + row[1], desk.held(0), row[2]);
@@ -392,9 +398,13 @@ public final class Term2Test {
 
     private static void encodedWordsThatAreNone() {
         Desk.of("(what is none stays as it is, and it goes on with the next char); a = without two digits: it is no encoded word");
-        String[] none = {"=?us-ascii?Q?a=?=", "=?us-ascii?Q?a=4?=", "=?us-ascii?Q?=4g?=", "=?us-ascii?Q?=g4?=", "=?us-ascii?Q?==41?=", "=??Q?a?=", "=?us-ascii?X?a?=", "=?us-ascii??a?=", "=?us-ascii?QQ?a?=", "=?us-ascii?QX?=", "=?us-ascii?Qab?=", "=?us-ascii*Q?a?=", "=?us-ascii Q?a?=", "=.us-ascii?Q?a?=", "==us-ascii?Q?a?=",
-            "=?us-ascii?Q?a b?=", "=?us-ascii?Q?a\tb?=", "=?us-ascii?Q?a\u007fb?=", "=?us-ascii?Q?a\u00e9b?=", "=?us-ascii?Q?a?b?=", "=?us.ascii?Q?a?=", "=?us ascii?Q?a?=", "=?us*ascii?Q?a?=", "=?us-ascii?Q?a?",
-            "=?us-ascii?Q?a", "=?us-ascii?Q?", "=?us-ascii?Q", "=?us-ascii?", "=?us-ascii", "=?", "=", "? =", "=us-ascii?Q?a?=", "?us-ascii?Q?a?=", "=?us-ascii?Q?a=?", "=?us-ascii?Q?a??="};
+        String[] none = {"=?us-ascii?Q?a=?=", "=?us-ascii?Q?a=4?=", "=?us-ascii?Q?=4g?=", "=?us-ascii?Q?=g4?=", "=?us-ascii?Q?==41?=", "=??Q?a?=",
+            "=?us-ascii?X?a?=", "=?us-ascii??a?=", "=?us-ascii?QQ?a?=", "=?us-ascii?QX?=", "=?us-ascii?Qab?=", "=?us-ascii*Q?a?=", "=?us-ascii Q?a?=",
+            "=.us-ascii?Q?a?=", "==us-ascii?Q?a?=",
+            "=?us-ascii?Q?a b?=", "=?us-ascii?Q?a\tb?=", "=?us-ascii?Q?a\u007fb?=", "=?us-ascii?Q?a\u00e9b?=", "=?us-ascii?Q?a?b?=",
+                "=?us.ascii?Q?a?=", "=?us ascii?Q?a?=", "=?us*ascii?Q?a?=", "=?us-ascii?Q?a?",
+            "=?us-ascii?Q?a", "=?us-ascii?Q?", "=?us-ascii?Q", "=?us-ascii?", "=?us-ascii", "=?", "=", "? =", "=us-ascii?Q?a?=", "?us-ascii?Q?a?=",
+                "=?us-ascii?Q?a=?", "=?us-ascii?Q?a??="};
         for (String value : none) {
             chars(value, value);
             chars(value + " =?us-ascii?Q?b?=", value + " b");
@@ -443,17 +453,20 @@ public final class Term2Test {
 
     private static void types() {
         Desk.of("a TYPE, /, a SUBTYPE (of each: letters, digits, + - . _, one or more; SMALL)");
-        String[] html = {"text/html", "TEXT/HTML", "Text/Html;", "text/html ;x", "text/html x", "text/html/x", "text/html(x)", " \ttext/html\t", "text/\r\nhtml", "text/html\u00e9", "text/html=x", "text/html,x"};
+        String[] html = {"text/html", "TEXT/HTML", "Text/Html;", "text/html ;x", "text/html x", "text/html/x", "text/html(x)", " \ttext/html\t",
+            "text/\r\nhtml", "text/html\u00e9", "text/html=x", "text/html,x"};
         for (String type : html) {
             kind(type, "h");
         }
-        String[] other = {"text/htmlx", "text/htm", "text/html+x", "text/html-x", "text/html.x", "text/html_x", "text/html1", "text/xhtml", "texts/html", "tex/html", "x.y_z+1-/a", "1/2", "text/x", "image/plain", "x/y; a=b", "multipart/mixed", "message/rfc822",
+        String[] other = {"text/htmlx", "text/htm", "text/html+x", "text/html-x", "text/html.x", "text/html_x", "text/html1", "text/xhtml",
+            "texts/html", "tex/html", "x.y_z+1-/a", "1/2", "text/x", "image/plain", "x/y; a=b", "multipart/mixed", "message/rfc822",
             "+/-", "./_", "textplain/text"};
         for (String type : other) {
             kind(type, "-");
         }
         Desk.of("A field that does not begin with a type, /, subtype, or none: text, plain");
-        String[] plain = {"", "text", "html", "/", "text/", "/html", "text /html", "text/ html", ";", "te xt/html", "text;html", "text\\html", "image/", "/plain", "*/*", "image/*", "im*ge/png", "\"text/html\"", "=text/html", "text//html", "text/;charset=utf-8"};
+        String[] plain = {"", "text", "html", "/", "text/", "/html", "text /html", "text/ html", ";", "te xt/html", "text;html", "text\\html",
+            "image/", "/plain", "*/*", "image/*", "im*ge/png", "\"text/html\"", "=text/html", "text//html", "text/;charset=utf-8"};
         for (String type : plain) {
             kind(type, "p");
         }
@@ -463,28 +476,35 @@ public final class Term2Test {
 
     private static void parameter(String rest, boolean utf) {
         String text = Desk.textOf("\u00c3\u00a9", TYPE, "text/plain" + rest);
-        Desk.due("charset of text/plain" + rest, text.equals("\u00e9\n") ? "utf-8" : text.equals("\u00c3\u00a9\n") ? "latin" : "ascii", utf ? "utf-8" : "ascii");
+        Desk.due("charset of text/plain" + rest, text.equals("\u00e9\n") ? "utf-8" : text.equals("\u00c3\u00a9\n") ? "latin" : "ascii",
+            utf ? "utf-8" : "ascii");
     }
 
     private static void parameters() {
         Desk.of("each behind blanks (perhaps none) and ; and blanks (perhaps none), PARAMETERS: a name (likewise), =, and a value");
-        String[] right = {";charset=utf-8", " ; charset=utf-8", "\t;\tcharset=utf-8", " \t ; \t charset=utf-8", "; CharSet=UTF-8", "; a=b;charset=utf-8", "; a=b ; charset=utf-8", "; a+b-c.d_9=e; charset=utf-8", "; a=b; c=\"d\"; charset=utf-8",
+        String[] right = {";charset=utf-8", " ; charset=utf-8", "\t;\tcharset=utf-8", " \t ; \t charset=utf-8", "; CharSet=UTF-8",
+            "; a=b;charset=utf-8", "; a=b ; charset=utf-8", "; a+b-c.d_9=e; charset=utf-8", "; a=b; c=\"d\"; charset=utf-8",
             "; charset=utf-8;", "; charset=utf-8; ", "; charset=utf-8 x", "; charset=utf-8;;", "; charset=utf-8\u007f", "; charset=utf-8\u00e9"};
         for (String rest : right) {
             parameter(rest, true);
         }
-        String[] wrong = {" charset=utf-8", ", charset=utf-8", ";; charset=utf-8", "; ; charset=utf-8", "; charset", "; charset=", "; =utf-8", "; =x; charset=utf-8", ";=x;charset=utf-8", "; charset =utf-8", "; charset= utf-8", "; a; charset=utf-8", "; a=; charset=utf-8", "; a=b c; charset=utf-8", "; a*=b; charset=utf-8",
+        String[] wrong = {" charset=utf-8", ", charset=utf-8", ";; charset=utf-8", "; ; charset=utf-8", "; charset", "; charset=", "; =utf-8",
+            "; =x; charset=utf-8", ";=x;charset=utf-8", "; charset =utf-8", "; charset= utf-8", "; a; charset=utf-8", "; a=; charset=utf-8",
+            "; a=b c; charset=utf-8", "; a*=b; charset=utf-8",
             "; \u00e9=b; charset=utf-8", "x; charset=utf-8", "; charsets=utf-8", "; harset=utf-8", "/x; charset=utf-8", "; a=\u00e9; charset=utf-8"};
         for (String rest : wrong) {
             parameter(rest, false);
         }
         Desk.of("a value: signs 33 to 126 but ; and \", one or more; or \" and any but \" and \\ (a \\ and any sign is that sign) and \"");
-        String[] values = {"; a=!#$%&'()*+,/:<=>?@[\\]^`{|}~; charset=utf-8", "; a=\"\"; charset=utf-8", "; a=\" \t\u00e9;=\"; charset=utf-8", "; a=\"\\\"\"; charset=utf-8", "; a=\"\\\\\"; charset=utf-8", "; charset=\"utf-8\"", "; charset=\"\\u\\t\\f\\-\\8\"", "; charset=\"utf-8\"x",
+        String[] values = {"; a=!#$%&'()*+,/:<=>?@[\\]^`{|}~; charset=utf-8", "; a=\"\"; charset=utf-8", "; a=\" \t\u00e9;=\"; charset=utf-8",
+            "; a=\"\\\"\"; charset=utf-8", "; a=\"\\\\\"; charset=utf-8", "; charset=\"utf-8\"", "; charset=\"\\u\\t\\f\\-\\8\"",
+            "; charset=\"utf-8\"x",
             "; charset=utf-8\"x", "; charset=utf-8\"\"", "; a=\\\\; charset=utf-8"};
         for (String rest : values) {
             parameter(rest, true);
         }
-        String[] noValues = {"; a=\"; charset=utf-8", "; charset=\"utf-8", "; charset=\"utf-8\\\"", "; charset=\"utf-8\\", "; a=b\"; charset=utf-8", "; a=\"b\"c; charset=utf-8", "; a=;charset=utf-8", "; charset=\""};
+        String[] noValues = {"; a=\"; charset=utf-8", "; charset=\"utf-8", "; charset=\"utf-8\\\"", "; charset=\"utf-8\\", "; a=b\"; charset=utf-8",
+            "; a=\"b\"c; charset=utf-8", "; a=;charset=utf-8", "; charset=\""};
         for (String rest : noValues) {
             parameter(rest, false);
         }
@@ -494,7 +514,8 @@ public final class Term2Test {
         parameter("; charset=us-ascii; charset=utf-8", false);
         parameter("; charset=us-ascii; CHARSET=utf-8", false);
         parameter("; charset=\"utf-8; charset=utf-8", false);
-        Desk.due("of two the first, also where it is none of the three", Desk.textOf("\u00e9", TYPE, "text/plain; charset=x; charset=us-ascii"), "\u00e9\n");
+        Desk.due("of two the first, also where it is none of the three", Desk.textOf("\u00e9", TYPE, "text/plain; charset=x; charset=us-ascii"),
+            "\u00e9\n");
         Desk.due("an empty one is the first", Desk.textOf("\u00e9", TYPE, "text/plain; charset=\"\"; charset=us-ascii"), "\u00e9\n");
     }
 
@@ -532,7 +553,8 @@ public final class Term2Test {
         for (int length : new int[] {0, 1, 2, 69, 70, 71, 72, 200}) {
             String b = "z".repeat(length);
             boolean right = length >= 1 && length <= 70;
-            parted("a boundary of " + length, "multipart/x; boundary=\"" + b + "\"", "--" + b + "\n\nx\n--" + b + "--", right ? 2 : 1, right ? "x\n" : "");
+            parted("a boundary of " + length, "multipart/x; boundary=\"" + b + "\"", "--" + b + "\n\nx\n--" + b + "--", right ? 2 : 1,
+                right ? "x\n" : "");
         }
         parted("without one", "multipart/x", "--\n\nx\n----", 1, "");
         parted("of another type", "multiparts/x; boundary=q", "--q\n\nx", 1, "");
@@ -551,7 +573,8 @@ public final class Term2Test {
         for (String blanks : new String[] {"", " ", "\t", " \t "}) {
             parted("blanks behind", type, "--q" + blanks + "\n\none\n--q" + blanks + "\n\ntwo\n--q--" + blanks + "\nout", 3, "one\ntwo\n");
         }
-        for (String none : new String[] {"x-q", "-xq", "xxq", "+-q", "-+q", " --q", "-q", "--", "--Q", "--qx", "--q x", "--q-", "--q-x", "--q- -", "--q --", "--q--x", "--q---", "--q-- x", "---q", "q", "--q\u000b", "--q--\u00a0"}) {
+        for (String none : new String[] {"x-q", "-xq", "xxq", "+-q", "-+q", " --q", "-q", "--", "--Q", "--qx", "--q x", "--q-", "--q-x", "--q- -",
+            "--q --", "--q--x", "--q---", "--q-- x", "---q", "q", "--q\u000b", "--q--\u00a0"}) {
             Desk desk = new Desk().judge("--q\n\none\n" + none + "\ntwo\n--q--\nout", TYPE, type);
             Desk.due("no separator: " + none, desk.sieve.session(0, 10), 2);
             Desk.due("it stays: " + none, desk.text(0).endsWith("two\n"), true);
@@ -567,10 +590,12 @@ public final class Term2Test {
         Desk.of("between two (or a separator and the end) there is a part each, the line's end ahead of a separator not being of it");
         parted("to the end", type, "--q\n\none\n--q\n\ntwo", 3, "one\ntwo\n");
         parted("to the end, with a line's end", type, "--q\n\none\n--q\n\ntwo\n", 3, "one\ntwo\n");
-        String[][] rows = {{"--q\n\na\n--q--", "^a\\n$"}, {"--q\n\na\n\n--q--", "^a\\n\\n$"}, {"--q\n\na\r\n--q--", "^a\\n$"}, {"--q\n\na\r\n\r\n--q--", "^a[^ -~]\\n\\n$"}, {"--q\n\na\n", "^a\\n\\n$"}, {"--q\n\na", "^a\\n$"}, {"--q\n\n\n--q--", "^\\n$"},
+        String[][] rows = {{"--q\n\na\n--q--", "^a\\n$"}, {"--q\n\na\n\n--q--", "^a\\n\\n$"}, {"--q\n\na\r\n--q--", "^a\\n$"},
+            {"--q\n\na\r\n\r\n--q--", "^a[^ -~]\\n\\n$"}, {"--q\n\na\n", "^a\\n\\n$"}, {"--q\n\na", "^a\\n$"}, {"--q\n\n\n--q--", "^\\n$"},
             {"--q\n\n\n\n--q--", "^\\n\\n$"}};
         for (String[] row : rows) {
-            Desk.due("raw " + row[1] + " of " + row[0], Desk.with("raw A /" + row[1] + "/", "count B lines").judge(row[0], TYPE, type).held(0).startsWith("0"), true);
+            Desk.due("raw " + row[1] + " of " + row[0], Desk.with("raw A /" + row[1] + "/", "count B lines").judge(row[0], TYPE,
+                type).held(0).startsWith("0"), true);
         }
     }
 
@@ -646,14 +671,17 @@ public final class Term2Test {
         Desk.of("that lies in at most 3 others, is PARTED");
         for (int deepest = 1; deepest <= 6; deepest++) {
             // part 0 is parted by b0, in it lies one that is parted by b1, and so on
-            Desk desk = new Desk().judge(nest(0, deepest).substring(TYPE.length() + 2).replaceFirst("^[^\n]*\n\n", ""), TYPE, "multipart/x; boundary=b0");
+            Desk desk = new Desk().judge(nest(0, deepest).substring(TYPE.length() + 2).replaceFirst("^[^\n]*\n\n", ""), TYPE,
+                "multipart/x; boundary=b0");
             Desk.due("parts " + deepest + " deep", desk.sieve.session(0, 10), Math.min(deepest, 4) + 1);
             Desk.due("text " + deepest + " deep", desk.text(0), deepest <= 4 ? "deep\n" : "");
         }
         Desk.of("(by its own lines, whatever is in its parts)");
-        parted("the outer one ends the inner one", "multipart/x; boundary=a", "--a\n" + TYPE + ": multipart/x; boundary=i\n\n--i\n\none\n--a\n\ntwo\n--i\n\nthree\n--a--", 4, "one\ntwo\n--i\nthree\n");
+        parted("the outer one ends the inner one", "multipart/x; boundary=a", "--a\n" + TYPE
+            + ": multipart/x; boundary=i\n\n--i\n\none\n--a\n\ntwo\n--i\n\nthree\n--a--", 4, "one\ntwo\n--i\nthree\n");
         parted("the same boundary", "multipart/x; boundary=a", "--a\n" + TYPE + ": multipart/x; boundary=a\n\n--a\n\none\n--a--\nout", 3, "one\n");
-        parted("the outer last one within the inner one", "multipart/x; boundary=a", "--a\n" + TYPE + ": multipart/x; boundary=i\n\n--i\n\none\n--a--\n--i\n\ntwo", 3, "one\n");
+        parted("the outer last one within the inner one", "multipart/x; boundary=a", "--a\n" + TYPE
+            + ": multipart/x; boundary=i\n\n--i\n\none\n--a--\n--i\n\ntwo", 3, "one\n");
     }
 
     private static void atMostTwentyParts() {
@@ -685,7 +713,8 @@ public final class Term2Test {
             text.append("in").append(i).append("\n");
         }
         parted("those in the first one are ahead of the second", "multipart/x; boundary=q", inner + "--r--\n--q\n\nout\n", 20, text.toString());
-        parted("attachments count, too", "multipart/x; boundary=q", ("--q\n" + TYPE + ": a/b\n\nx\n").repeat(18) + "--q\n\none\n--q\n\ntwo\n", 20, "one\n");
+        parted("attachments count, too", "multipart/x; boundary=q", ("--q\n" + TYPE + ": a/b\n\nx\n").repeat(18) + "--q\n\none\n--q\n\ntwo\n", 20,
+            "one\n");
     }
 
     private static void leaves() {
@@ -694,7 +723,8 @@ public final class Term2Test {
         String[] texts = {"<i>x\n", "x\n", "", "", "", ""};
         for (int i = 0; i < types.length; i++) {
             parted("a part of " + types[i], "multipart/x; boundary=q", "--q\n" + TYPE + ": " + types[i] + "\n\n<i>x\n--q--", 2, texts[i]);
-            Desk desk = Desk.with("attach A ext").judge("--q\n" + TYPE + ": " + types[i] + "; name=a.ext\n\n<i>x\n--q--", TYPE, "multipart/x; boundary=q");
+            Desk desk = Desk.with("attach A ext").judge("--q\n" + TYPE + ": " + types[i] + "; name=a.ext\n\n<i>x\n--q--", TYPE,
+                "multipart/x; boundary=q");
             Desk.due("an attachment: " + types[i], desk.held(0), i < 2 ? "" : "0");
         }
     }
@@ -778,15 +808,19 @@ public final class Term2Test {
     private static void links() {
         Desk.of("In a tag a blank, href= (SMALL) and a sign 34 begin a LINK: what is up to the next sign 34 (or the tag's end); the first such one alone");
         String u = "http://h/x";
-        String[] right = {"<a href=\"" + u + "\">", "<a\thref=\"" + u + "\">", "<A HREF=\"" + u + "\">", "<a x=y href=\"" + u + "\" z>", "<a  hReF=\"" + u + "\"", "<a href=\"" + u, "<a href=\"" + u + ">", "</a href=\"" + u + "\">", "<! href=\"" + u + "\">",
-            "<p href=\"" + u + "\">", "<script href=\"" + u + "\">", "<a href=x href=\"" + u + "\">", "<a href='x' href=\"" + u + "\">", "<a xhref=\"x\" href=\"" + u + "\">"};
+        String[] right = {"<a href=\"" + u + "\">", "<a\thref=\"" + u + "\">", "<A HREF=\"" + u + "\">", "<a x=y href=\"" + u + "\" z>", "<a  hReF=\""
+            + u + "\"", "<a href=\"" + u, "<a href=\"" + u + ">", "</a href=\"" + u + "\">", "<! href=\"" + u + "\">",
+            "<p href=\"" + u + "\">", "<script href=\"" + u + "\">", "<a href=x href=\"" + u + "\">", "<a href='x' href=\"" + u + "\">",
+                "<a xhref=\"x\" href=\"" + u + "\">"};
         for (String tag : right) {
             Desk desk = Desk.with("uri A /^http:..h.x$/").judge(tag, TYPE, "text/html");
             Desk.due("links in " + tag, desk.sieve.session(0, 12), 1);
             Desk.due("the link in " + tag, desk.held(0), "0");
         }
-        String[] none = {"<a href='" + u + "'>", "<a href=" + u + ">", "<ahref=\"" + u + "\">", "<a\nhref=\"" + u + "\">", "<a href =\"" + u + "\">", "<a href= \"" + u + "\">", "<a hrefs=\"" + u + "\">", "<a xhref=\"" + u + "\">", "<!-- <a href=\"" + u + "\"> -->",
-            "<script><a href=\"" + u + "\"></script>", "<a href=\"\" href=\"" + u + "\">", "<a href=\"x\" href=\"" + u + "\">", "<a href=\" " + u + "\">", "<a href=\"x" + u + "\">", "<a href=\"", "<a href=", "<a> href=\"", "<a href=\"http://\">", "<a href=\"http:/h\">",
+        String[] none = {"<a href='" + u + "'>", "<a href=" + u + ">", "<ahref=\"" + u + "\">", "<a\nhref=\"" + u + "\">", "<a href =\"" + u + "\">",
+            "<a href= \"" + u + "\">", "<a hrefs=\"" + u + "\">", "<a xhref=\"" + u + "\">", "<!-- <a href=\"" + u + "\"> -->",
+            "<script><a href=\"" + u + "\"></script>", "<a href=\"\" href=\"" + u + "\">", "<a href=\"x\" href=\"" + u + "\">", "<a href=\" " + u
+                + "\">", "<a href=\"x" + u + "\">", "<a href=\"", "<a href=", "<a> href=\"", "<a href=\"http://\">", "<a href=\"http:/h\">",
             "<a href=\"http://_\">", "<a x=\">\" href=\"ftp://h\">"};
         for (String tag : none) {
             Desk desk = new Desk();
@@ -811,7 +845,8 @@ public final class Term2Test {
         Desk.of("The sign 38 and one of amp; lt; gt; quot; nbsp; are 38, <, >, \" and 32");
         markup("x&y<z>a\"b c", "x&amp;y&lt;z&gt;a&quot;b&nbsp;c");
         markup("x y", "x&nbsp;&nbsp; &nbsp;y");
-        for (String none : new String[] {"&", "&;", "&amp", "&am;", "&ampx;", "&amp ;", "&AMP;", "&Lt;", "&gT;", "&QUOT;", "&Nbsp;", "&apos;", "&l;", "&ltt;", "&quo;", "&quott;", "&nbs;", "& lt;", "&#", "&#;"}) {
+        for (String none : new String[] {"&", "&;", "&amp", "&am;", "&ampx;", "&amp ;", "&AMP;", "&Lt;", "&gT;", "&QUOT;", "&Nbsp;", "&apos;", "&l;",
+            "&ltt;", "&quo;", "&quott;", "&nbs;", "& lt;", "&#", "&#;"}) {
             markup("x" + none + "y", "x" + none + "y");
             markup("x" + none, "x" + none);
         }
@@ -879,7 +914,8 @@ public final class Term2Test {
     private static void texts() {
         Desk.of("THE TEXT: of each TEXT and HTML leaf, in order. THE RAW TEXT: of each the chars as they are, and a 10");
         String body = "--q\n\n one  1 \n--q\n" + TYPE + ": a/b\n\nnone\n--q\n" + TYPE + ": text/html\n\n<p> two  2 \n--q\n\n\n--q--";
-        Desk desk = Desk.with("raw A /^ one  1 \\n<p> two  2 \\n\\n$/", "raw B /none/", "body C /^one 1\\ntwo 2\\n\\n$/", "body D /none/", "count E lines 3 =", "count F chars 13 =").judge(body, TYPE, "multipart/x; boundary=q");
+        Desk desk = Desk.with("raw A /^ one  1 \\n<p> two  2 \\n\\n$/", "raw B /none/", "body C /^one 1\\ntwo 2\\n\\n$/", "body D /none/",
+            "count E lines 3 =", "count F chars 13 =").judge(body, TYPE, "multipart/x; boundary=q");
         Desk.due("both", desk.held(0), "0 2 4 5");
         Desk.due("the text", desk.text(0), "one 1\ntwo 2\n\n");
         Desk attachment = Desk.with("raw A /^$/", "raw B /./", "body C /^$/", "count D chars").judge("none", TYPE, "a/b");
@@ -919,7 +955,9 @@ public final class Term2Test {
         uri("x http://.", "http://.");
         uri("xhttp://9", "http://9");
         uri("http://Zz", "http://Zz");
-        for (String none : new String[] {"http://", "http:// a", "http:///a", "http:/a", "http:a", "http//a", "ttp://a", "httpss://a", "httpx://a", "htt ps://a", "ftp://a", "http://_", "http://:", "http://@", "http://[", "http://`", "http://{", "http://,", "http://\u00e9", "https://", "https:/a"}) {
+        for (String none : new String[] {"http://", "http:// a", "http:///a", "http:/a", "http:a", "http//a", "ttp://a", "httpss://a", "httpx://a",
+            "htt ps://a", "ftp://a", "http://_", "http://:", "http://@", "http://[", "http://`", "http://{", "http://,", "http://\u00e9", "https://",
+            "https:/a"}) {
             uri(none);
         }
         uri("hhttp://a", "http://a");
@@ -938,7 +976,8 @@ public final class Term2Test {
     private static void urisOfLinks() {
         Desk.of("then the links that begin so, in order. (Of a link: from its first char on, likewise.)");
         Desk desk = Desk.with("uri A /^http:..one$/", "uri B /^http:..two.x$/", "uri C /^https:..three$/", "uri D /no/");
-        desk.judge("<a href=\"http://two/x no\"> http://one <a href=\"no http://no\"><a href=\"https://three<no\"><a href=\"\"><a href=\"mailto:no\">", TYPE, "text/html");
+        desk.judge("<a href=\"http://two/x no\"> http://one <a href=\"no http://no\"><a href=\"https://three<no\"><a href=\"\"><a href=\"mailto:no\">",
+            TYPE, "text/html");
         Desk.due("uris", desk.sieve.session(0, 12), 3);
         Desk.due("held", desk.held(0), "0 1 2");
         desk.sieve.learn(0, true);
@@ -988,7 +1027,8 @@ public final class Term2Test {
         for (int length : new int[] {119, 120, 121, 300}) {
             String uri = "http://" + "y".repeat(length - 8) + "z";
             for (String body : new String[] {uri + " x", "<a href=\"" + uri + "\">"}) {
-                Desk desk = Desk.with("uri A /^(.{20}){6}$/", "uri B /z$/", "uri C /^(.{17}){7}$/", "uri D /^(.{20}){6}./").judge(body, TYPE, "text/html");
+                Desk desk = Desk.with("uri A /^(.{20}){6}$/", "uri B /z$/", "uri C /^(.{17}){7}$/", "uri D /^(.{20}){6}./").judge(body, TYPE,
+                    "text/html");
                 Desk.due("a uri of " + length, desk.held(0), length == 119 ? "1 2" : length == 120 ? "0 1" : "0");
             }
         }

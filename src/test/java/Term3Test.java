@@ -87,7 +87,8 @@ public final class Term3Test {
                 wrong(ahead + none, ahead.length());
             }
         }
-        for (String all : new String[] {"", "|", "||", "()", "(|)", ".", "^", "$", "^*", "$+", ".?", "^{2}", "()*", "(a|b)", "a|", "|a", "((a)|(b))", ",", "-", "0", "a-b", "a,b", "&", "~", " "}) {
+        for (String all : new String[] {"", "|", "||", "()", "(|)", ".", "^", "$", "^*", "$+", ".?", "^{2}", "()*", "(a|b)", "a|", "|a", "((a)|(b))",
+            ",", "-", "0", "a-b", "a,b", "&", "~", " "}) {
             right(all);
         }
     }
@@ -123,7 +124,8 @@ public final class Term3Test {
 
     private static void classes() {
         Desk.of("class: \"[\" \"^\"? item+ \"]\". item: char | char \"-\" char | \"\\\" escape. char: any sign but ] [ \\ ^ -");
-        for (String all : new String[] {"[a]", "[^a]", "[ab]", "[a-b]", "[a-a]", "[a-bc-d]", "[a-bc]", "[ab-c]", "[.]", "[*+?{}()|$]", "[ ]", "[\\]]", "[\\^]", "[\\-]", "[\\[]", "[\\\\]", "[\\da]", "[a\\d]", "[\\d\\w]", "[!-~]", "[ -~]", "[,-.]", "[^\\^]"}) {
+        for (String all : new String[] {"[a]", "[^a]", "[ab]", "[a-b]", "[a-a]", "[a-bc-d]", "[a-bc]", "[ab-c]", "[.]", "[*+?{}()|$]", "[ ]", "[\\]]",
+            "[\\^]", "[\\-]", "[\\[]", "[\\\\]", "[\\da]", "[a\\d]", "[\\d\\w]", "[!-~]", "[ -~]", "[,-.]", "[^\\^]"}) {
             right(all);
         }
         wrong("[]", 1);
@@ -179,7 +181,8 @@ public final class Term3Test {
 
     private static void endsTooSoon() {
         Desk.of("(at its length, when it ends too soon)");
-        for (String soon : new String[] {"(", "((", "(a", "(a|", "((a)", "()(", "[", "[^", "[a", "[^a", "[a-", "[a-b", "[\\", "[a\\", "[\\d", "\\", "a\\", "(\\", "a{", "a{1", "a{12", "a{1,", "a{1,2", "a{1,12", "(a){", "(a)*("}) {
+        for (String soon : new String[] {"(", "((", "(a", "(a|", "((a)", "()(", "[", "[^", "[a", "[^a", "[a-", "[a-b", "[\\", "[a\\", "[\\d", "\\",
+            "a\\", "(\\", "a{", "a{1", "a{12", "a{1,", "a{1,2", "a{1,12", "(a){", "(a)*("}) {
             wrong(soon, soon.length());
             Desk.due(soon + " in a line without /", new Desk().line("body A /" + soon), 8 + soon.length() + 1);
         }
@@ -283,7 +286,8 @@ public final class Term3Test {
 
     private static void sizeOfAtomsAndGroups() {
         Desk.of("at its length when its SIZE is above 600: of an atom that is no group 1; of a group that of its re");
-        for (String atom : new String[] {"a", ".", "^", "$", "\\d", "\\b", "\\n", "\\.", "[a]", "[^a-z\\d_]", "[abcdefghijklmnop]", "(a)", "((((((a))))))"}) {
+        for (String atom : new String[] {"a", ".", "^", "$", "\\d", "\\b", "\\n", "\\.", "[a]", "[^a-z\\d_]", "[abcdefghijklmnop]", "(a)",
+            "((((((a))))))"}) {
             size(atom, 1);
         }
         right("a".repeat(600));
@@ -381,7 +385,8 @@ public final class Term3Test {
             }
             wrongs++;
             for (int k = 0; k < 4; k++) {
-                String other = expression.substring(0, place + 1) + SIGNS.charAt(random.nextInt(SIGNS.length())) + SIGNS.charAt(random.nextInt(SIGNS.length()));
+                String other = expression.substring(0, place + 1) + SIGNS.charAt(random.nextInt(SIGNS.length()))
+                    + SIGNS.charAt(random.nextInt(SIGNS.length()));
                 Desk.due("nothing right begins with the wrong sign of " + expression + ", as in " + other, DESK.find(other, "", false), -2 - place);
             }
             boolean begins = expression.substring(0, place).matches(".*\\{\\d+,\\d+");
@@ -486,7 +491,8 @@ public final class Term3Test {
             // so many chars of any kind ahead of it, and so many behind it
             StringBuilder all = new StringBuilder();
             for (int k = 0; k < row.length(); k++) {
-                all.append(k == i ? expression : "").append(row.charAt(k) == '\n' ? "\\n" : Character.isLetterOrDigit(row.charAt(k)) ? "" + row.charAt(k) : "\\" + row.charAt(k));
+                all.append(k == i ? expression : "").append(row.charAt(k) == '\n' ? "\\n" : Character.isLetterOrDigit(row.charAt(k)) ? ""
+                    + row.charAt(k) : "\\" + row.charAt(k));
             }
             all.append(i == row.length() ? expression : "");
             int got = DESK.find(all.toString(), row, false);
@@ -529,7 +535,8 @@ public final class Term3Test {
 
     private static void repeats() {
         Desk.of("{n,m} n to m times one behind the other, * + ? {0,} {1,} {0,1}");
-        String[] times = {"*", "+", "?", "{0}", "{1}", "{2}", "{20}", "{0,}", "{1,}", "{2,}", "{20,}", "{0,1}", "{0,3}", "{2,3}", "{3,3}", "{0,20}", "{19,20}"};
+        String[] times = {"*", "+", "?", "{0}", "{1}", "{2}", "{20}", "{0,}", "{1,}", "{2,}", "{20,}", "{0,1}", "{0,3}", "{2,3}", "{3,3}", "{0,20}",
+            "{19,20}"};
         int[] least = {0, 1, 0, 0, 1, 2, 20, 0, 1, 2, 20, 0, 0, 2, 3, 0, 19};
         int[] most = {99, 99, 1, 0, 1, 2, 20, 99, 99, 99, 99, 1, 3, 3, 3, 20, 20};
         for (int i = 0; i < times.length; i++) {

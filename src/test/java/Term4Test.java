@@ -3,8 +3,10 @@ import java.util.Random;
 /** Term 4, sentence by sentence: each place at which a line is wrong, each line that is refused, loading and the order. */
 public final class Term4Test {
     private static final Desk DESK = new Desk();
-    private static final String[] RIGHT = {"clear", "header ABC X-Y /a(b|c)*[d-f]{2,3}\\d/i", "header A B //", "exists A_9 Date", "body A /x/", "raw A /x/i", "uri A /x/", "attach A exe1", "bayes A 12 345",
-        "listed A 0 255", "meta A B&&(C||!D)&&G==12+E-3||H<I&&J>1", "count A parts 1 + chars * lines - heads < rcpts = uris & caps | size ! 1 + +", "score A -123.456", "score A 1",
+    private static final String[] RIGHT = {"clear", "header ABC X-Y /a(b|c)*[d-f]{2,3}\\d/i", "header A B //", "exists A_9 Date", "body A /x/",
+        "raw A /x/i", "uri A /x/", "attach A exe1", "bayes A 12 345",
+        "listed A 0 255", "meta A B&&(C||!D)&&G==12+E-3||H<I&&J>1", "count A parts 1 + chars * lines - heads < rcpts = uris & caps | size ! 1 + +",
+            "score A -123.456", "score A 1",
         "priority A -12", "priority A 9", "zone ab-1.c2.d", "grey 3600", "limits 1 2.5 -3.125"};
 
     public static void main(String[] args) {
@@ -157,7 +159,8 @@ public final class Term4Test {
             }
             wrongs++;
             for (int k = 0; k < 3; k++) {
-                String other = line.substring(0, place + 1) + signs.charAt(random.nextInt(signs.length())) + line.substring(random.nextInt(line.length()));
+                String other = line.substring(0, place + 1) + signs.charAt(random.nextInt(signs.length()))
+                    + line.substring(random.nextInt(line.length()));
                 Desk.due("no right line begins with the wrong sign of " + line + ", as in " + other, new Desk().line(other), place + 1);
             }
             int soon = new Desk().line(line.substring(0, place));
@@ -186,7 +189,8 @@ public final class Term4Test {
 
     private static void firstWords() {
         Desk.of("clear. header. exists. body. raw. uri. attach. bayes. listed. meta. count. score. priority. zone. grey. limits");
-        String[] words = {"clear", "header", "exists", "body", "raw", "uri", "attach", "bayes", "listed", "meta", "count", "score", "priority", "zone", "grey", "limits"};
+        String[] words = {"clear", "header", "exists", "body", "raw", "uri", "attach", "bayes", "listed", "meta", "count", "score", "priority",
+            "zone", "grey", "limits"};
         for (String word : words) {
             for (int i = 0; i < word.length(); i++) {
                 wrong(word.substring(0, i), i);
@@ -311,14 +315,16 @@ public final class Term4Test {
 
     private static void numbers() {
         Desk.of("n: one to four digits");
-        String[] kinds = {"bayes A 0 ", "listed A 0 ", "grey ", "score A ", "score A -", "priority A ", "priority A -", "limits 1 2 ", "meta A ", "meta A 1+", "count A ", "count A 1 "};
+        String[] kinds = {"bayes A 0 ", "listed A 0 ", "grey ", "score A ", "score A -", "priority A ", "priority A -", "limits 1 2 ", "meta A ",
+            "meta A 1+", "count A ", "count A 1 "};
         for (String kind : kinds) {
             wrong(kind, kind.length());
             wrong(kind + "x", kind.length());
             for (int length = 1; length <= 4; length++) {
                 int got = new Desk().line(kind + "1".repeat(length) + (kind.equals("count A 1 ") ? " +" : ""));
                 Desk.due(kind + length + " digits", got == 0 || got == -2, true);
-                Desk.due(kind + length + " digits with 0 ahead", new Desk().line(kind + "0001".substring(4 - length) + (kind.equals("count A 1 ") ? " +" : "")) == 0 || kind.startsWith("score") || kind.startsWith("priority"), true);
+                Desk.due(kind + length + " digits with 0 ahead", new Desk().line(kind + "0001".substring(4 - length)
+                    + (kind.equals("count A 1 ") ? " +" : "")) == 0 || kind.startsWith("score") || kind.startsWith("priority"), true);
             }
             wrong(kind + "11111", kind.length() + 4);
             wrong(kind + "00000", kind.length() + 4);
@@ -336,7 +342,8 @@ public final class Term4Test {
 
     private static void weights() {
         Desk.of("W: perhaps -, n, and perhaps . and one to three digits: thousandths");
-        String[] texts = {"0", "1", "12", "123", "0001", "0.1", "0.01", "0.001", "1.5", "1.50", "1.500", "999.999", "-0", "-0.001", "-1.5", "-999.999", "0999.9"};
+        String[] texts = {"0", "1", "12", "123", "0001", "0.1", "0.01", "0.001", "1.5", "1.50", "1.500", "999.999", "-0", "-0.001", "-1.5",
+            "-999.999", "0999.9"};
         int[] thousandths = {0, 1000, 12000, 123000, 1000, 100, 10, 1, 1500, 1500, 1500, 999999, 0, -1, -1500, -999999, 999900};
         for (int i = 0; i < texts.length; i++) {
             Desk desk = Desk.with("count A 1", "score A " + texts[i]).judge("");
@@ -428,11 +435,14 @@ public final class Term4Test {
 
     private static void metas() {
         Desk.of("EXPRESSION, without blanks: or: and (\"||\" and)*. and: compare (\"&&\" compare)*. compare: sum ((\"<\" | \">\" | \"==\") sum)?. sum: one ((\"+\" | \"-\") one)*. one: \"!\" one | \"(\" or \")\" | n | NAME");
-        for (String all : new String[] {"B", "1", "!B", "!!B", "!1", "(B)", "((B))", "B||C", "B&&C", "B||C||D", "B&&C&&D", "B<C", "B>C", "B==C", "B+C", "B-C", "B+C-D+1", "B<C&&D>E||F==G", "(B<C)<D", "!(B||C)", "!B+1", "B<C||D<E", "B-1<C+2", "!(B)&&!C", "B<(C<D)", "1-2", "B+!C"}) {
+        for (String all : new String[] {"B", "1", "!B", "!!B", "!1", "(B)", "((B))", "B||C", "B&&C", "B||C||D", "B&&C&&D", "B<C", "B>C", "B==C",
+            "B+C", "B-C", "B+C-D+1", "B<C&&D>E||F==G", "(B<C)<D", "!(B||C)", "!B+1", "B<C||D<E", "B-1<C+2", "!(B)&&!C", "B<(C<D)", "1-2", "B+!C"}) {
             right("meta A " + all);
         }
-        String[] wrongs = {"", "b", "~", "|", "&", "<", ">", "=", "+", "-", ")", "/", "*", "()", "B)", "(B", "(B))", "B|", "B||", "B|C", "B|&C", "B|||C", "B&", "B&&", "B&C", "B&&&C", "B=", "B=C", "B==", "B===C", "B<", "B<<C", "B<=C", "B<C<D", "B<C>D", "B<C==D", "B==C==D",
-            "B>", "B>>C", "B>=C", "B+", "B++C", "B+-C", "B-", "B--C", "B*C", "B/C", "!", "!)", "!+B", "!|", "B!", "B!C", "B(", "B(C)", "(B)C", "(B)(C)", "1B", "1(", "B C", "B ", " B", "B&& C", "(B<C<D)", "(", "((", "B||(", "12345", "B_c", "Bc"};
+        String[] wrongs = {"", "b", "~", "|", "&", "<", ">", "=", "+", "-", ")", "/", "*", "()", "B)", "(B", "(B))", "B|", "B||", "B|C", "B|&C",
+            "B|||C", "B&", "B&&", "B&C", "B&&&C", "B=", "B=C", "B==", "B===C", "B<", "B<<C", "B<=C", "B<C<D", "B<C>D", "B<C==D", "B==C==D",
+            "B>", "B>>C", "B>=C", "B+", "B++C", "B+-C", "B-", "B--C", "B*C", "B/C", "!", "!)", "!+B", "!|", "B!", "B!C", "B(", "B(C)", "(B)C",
+                "(B)(C)", "1B", "1(", "B C", "B ", " B", "B&& C", "(B<C<D)", "(", "((", "B||(", "12345", "B_c", "Bc"};
         int[] places = {0, 0, 0, 0, 0, 0, 0, 0, 0, 0, 0, 0, 0, 1, 1, 2, 3, 2, 3, 2, 2, 3, 2, 3, 2, 3, 2, 2, 3, 3, 2, 2, 2, 3, 3, 3, 4,
             2, 2, 2, 2, 2, 2, 2, 2, 1, 1, 1, 1, 1, 1, 1, 1, 1, 1, 3, 3, 1, 1, 1, 1, 0, 3, 4, 1, 2, 4, 4, 2, 1};
         for (int i = 0; i < wrongs.length; i++) {
@@ -521,7 +531,8 @@ public final class Term4Test {
 
     private static void newRulesRefused() {
         Desk.of("REFUSED, and nothing is done: a new rule whose name is there, or when there are 24");
-        String[] kinds = {"header # x /a/", "exists # x", "body # /a/", "raw # /a/", "uri # /a/", "attach # x", "bayes # 0 1", "listed # 0 1", "meta # 1", "count # 1"};
+        String[] kinds = {"header # x /a/", "exists # x", "body # /a/", "raw # /a/", "uri # /a/", "attach # x", "bayes # 0 1", "listed # 0 1",
+            "meta # 1", "count # 1"};
         for (String kind : kinds) {
             Desk desk = new Desk();
             Desk.due("at first " + kind, desk.line(kind.replace("#", "A")), 0);
@@ -683,19 +694,22 @@ public final class Term4Test {
 
     private static void valuesOfMetas() {
         Desk.of("Of ints: a rule's name is 1 when it holds, else 0; !, the comparisons, && and || (both sides worked out; not 0 is yes) give 1 or 0. It holds when it is not 0");
-        String[] yes = {"T", "!F", "!!T", "1", "9999", "T&&T", "T||F", "F||T", "2&&3", "0||5", "T==1", "F==0", "!T==0", "!5==0", "!0==1", "T<2", "F<T", "T>F", "0-1<0", "1-2", "T-2", "T+T==2", "(T||T)==1", "(2&&3)==1", "(5>3)==1", "T+T+T==3", "5-3-1==1", "5-(3-1)==3",
+        String[] yes = {"T", "!F", "!!T", "1", "9999", "T&&T", "T||F", "F||T", "2&&3", "0||5", "T==1", "F==0", "!T==0", "!5==0", "!0==1", "T<2",
+            "F<T", "T>F", "0-1<0", "1-2", "T-2", "T+T==2", "(T||T)==1", "(2&&3)==1", "(5>3)==1", "T+T+T==3", "5-3-1==1", "5-(3-1)==3",
             "F&&F||T", "T||F&&F", "(T||F)&&T", "(1<2)==1", "F-1", "9999+9999==9999+9999", "!(T&&F)", "!T+1", "0-9999<0-9998"};
         for (String expression : yes) {
             meta(expression, true);
         }
-        String[] no = {"F", "!T", "!!F", "0", "T&&F", "F&&T", "F||F", "0||0", "T==0", "T==2", "T<1", "T<T", "F>F", "T>1", "T-1", "F+F", "2==(T||T)", "5-3-1==3", "(T||F)&&F", "0000", "!9999", "T-T", "2-1<1", "F<F", "!(T||F)"};
+        String[] no = {"F", "!T", "!!F", "0", "T&&F", "F&&T", "F||F", "0||0", "T==0", "T==2", "T<1", "T<T", "F>F", "T>1", "T-1", "F+F", "2==(T||T)",
+            "5-3-1==3", "(T||F)&&F", "0000", "!9999", "T-T", "2-1<1", "F<F", "!(T||F)"};
         for (String expression : no) {
             meta(expression, false);
         }
     }
 
     private static void program(String program, int want) {
-        Desk desk = Desk.with("count A " + program + " " + (want < 0 ? "0 " + -(want + 1) + " - 1 -" : "" + want) + " =", "count B " + program).judge("");
+        Desk desk = Desk.with("count A " + program + " " + (want < 0 ? "0 " + -(want + 1) + " - 1 -" : "" + want) + " =", "count B "
+            + program).judge("");
         Desk.due("count " + program, desk.held(0), want != 0 ? "0 1" : "0");
     }
 
@@ -723,20 +737,24 @@ public final class Term4Test {
         program("9 5 3 - -", 7);
         program("9 5 - 3 -", 1);
         program("9999 9999 * 9998 9999 * -", 9999);
-        Desk desk = Desk.with("count A 9999 9999 * 9999 * 0 <", "count B 9999 9999 * 0 <", "count C 2 2 * 2 * 2 * 2 * 2 * 2 * 2 * 256 = 16 16 * 256 = &",
+        Desk desk = Desk.with("count A 9999 9999 * 9999 * 0 <", "count B 9999 9999 * 0 <",
+            "count C 2 2 * 2 * 2 * 2 * 2 * 2 * 2 * 256 = 16 16 * 256 = &",
             "count D 256 256 * 256 * 128 * 0 <", "count E 256 256 * 256 * 256 * 0 =", "count F 256 256 * 256 * 128 * 1 - 0 <").judge("");
         int round = 9999 * 9999 * 9999;
         Desk.due("all around an int", desk.held(0), (round < 0 ? "0 " : "") + "2 3 4");
         Desk.of("a number, or how many parts, chars of the text, 10s in it, headers, recipients, uris, A to Z in the text, bytes of the body");
         String body = "--q\n\nAb C\nZ\n--q\n\n[@ http://x\n--q--";
-        Desk facts = Desk.with("count A parts 3 =", "count B chars 19 =", "count C lines 3 =", "count D heads 2 =", "count E rcpts 1 =", "count F uris 1 =", "count G caps 3 =", "count H size " + body.length() + " =");
+        Desk facts = Desk.with("count A parts 3 =", "count B chars 19 =", "count C lines 3 =", "count D heads 2 =", "count E rcpts 1 =",
+            "count F uris 1 =", "count G caps 3 =", "count H size " + body.length() + " =");
         facts.judge(body, "Content-Type", "multipart/x; boundary=q", "X", "y");
         int[] values = {3, 19, 3, 2, 1, 1, 3, body.length()};
         String[] names = {"parts", "chars", "lines", "heads", "rcpts", "uris", "caps", "size"};
         for (int i = 0; i < names.length; i++) {
             int v = values[i];
-            Desk each = Desk.with("count A " + names[i] + " " + v + " =", "count B " + names[i] + " " + (v + 1) + " =", "count C " + names[i] + " " + v + " <", "count D " + names[i] + " " + (v + 1) + " <",
-                "count E " + v + " " + names[i] + " <", "count F " + (v - 1) + " " + names[i] + " <", "count G " + names[i] + " " + v + " -", "count H " + names[i], "count I " + names[i] + " !", "count J " + names[i] + " " + names[i] + " + " + 2 * v + " =");
+            Desk each = Desk.with("count A " + names[i] + " " + v + " =", "count B " + names[i] + " " + (v + 1) + " =", "count C " + names[i] + " "
+                + v + " <", "count D " + names[i] + " " + (v + 1) + " <",
+                "count E " + v + " " + names[i] + " <", "count F " + (v - 1) + " " + names[i] + " <", "count G " + names[i] + " " + v + " -",
+                    "count H " + names[i], "count I " + names[i] + " !", "count J " + names[i] + " " + names[i] + " + " + 2 * v + " =");
             // a longer text with letters and lines came before
             each.judge("AAAA\n".repeat(50) + "http://x ".repeat(5) + "A".repeat(60), "A", "b", "C", "d", "E", "f");
             each.judge(body, "Content-Type", "multipart/x; boundary=q", "X", "y");

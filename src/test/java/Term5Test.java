@@ -117,7 +117,8 @@ public final class Term5Test {
 
     private static void headerRules() {
         Desk.of("header holds when its expression is FOUND in the CHARS of some header with this field (SMALL)");
-        String[] lines = {"header A X-Some /^one$/", "header B x-SOME /^two$/", "header C X-Som /./", "header D X-Somes /./", "header E X-Some /onetwo/", "header F X-Some /^$/", "header G X-Some /=/"};
+        String[] lines = {"header A X-Some /^one$/", "header B x-SOME /^two$/", "header C X-Som /./", "header D X-Somes /./",
+            "header E X-Some /onetwo/", "header F X-Some /^$/", "header G X-Some /=/"};
         held("0 1", lines, "", "x-some", "one", "X-SOME", " two\r\n");
         held("5", lines, "", "X-Some", "");
         held("", lines, "one");
@@ -189,7 +190,8 @@ public final class Term5Test {
         held("0", new String[] {"attach A exe"}, "x", TYPE, "a/b; NAME=a.exe; name=a.zip");
         held("0", new String[] {"attach A exe"}, "x", TYPE, "text/x; name=a.exe");
         held("", new String[] {"attach A exe"}, "--q--", TYPE, "multipart/x; boundary=q; name=a.exe");
-        held("0 1", new String[] {"attach A exe", "attach B zip"}, "--q\n" + TYPE + ": a/b; name=a.exe\n\n--q\n" + TYPE + ": a/b; name=b.zip\n\n--q--", TYPE, "multipart/x; boundary=q");
+        held("0 1", new String[] {"attach A exe", "attach B zip"}, "--q\n" + TYPE + ": a/b; name=a.exe\n\n--q\n" + TYPE
+            + ": a/b; name=b.zip\n\n--q--", TYPE, "multipart/x; boundary=q");
     }
 
     /** What one message had, the next one has not. */
@@ -208,9 +210,10 @@ public final class Term5Test {
 
     private static void bayesRules() {
         Desk.of("bayes A B when the indicator times 1,000.0 is A or more and below B (of B 1,000: not above)");
-        String[] lines = {"bayes A 499 500", "bayes B 500 501", "bayes C 0 500", "bayes D 500 1000", "bayes E 501 1000", "bayes F 0 1000", "bayes G 0 501", "bayes H 499 501"};
+        String[] lines = {"bayes A 499 500", "bayes B 500 501", "bayes C 0 500", "bayes D 500 1000", "bayes E 501 1000", "bayes F 0 1000",
+            "bayes G 0 501", "bayes H 499 501"};
         held("1 3 5 6 7", lines, "word");
-        // an indicator that is 1.0 as a double, and one that is 0.0
+        // an indicator that is 1.0 as a double, and one that is next to 0
         Desk desk = Desk.with("bayes A 999 1000", "bayes B 0 1000", "bayes C 0 999", "bayes D 0 1", "bayes E 1 1000");
         desk.meet(0, "");
         StringBuilder spam = new StringBuilder();
@@ -293,7 +296,8 @@ public final class Term5Test {
             desk.give(0, Desk.greeting(GRANTS[g]) + Desk.client(""));
             desk.sieve.clear(0);
             desk.give(0, Desk.message("", "Subject", "s"));
-            Desk.due("score " + score + ", limits " + limits + ", granted " + GRANTS[g], desk.letters(0).substring(4), want[want.length == 1 ? 0 : g]);
+            Desk.due("score " + score + ", limits " + limits + ", granted " + GRANTS[g], desk.letters(0).substring(4),
+                want[want.length == 1 ? 0 : g]);
         }
     }
 
@@ -347,7 +351,8 @@ public final class Term5Test {
 
     private static void limitsThatDoNotRise() {
         Desk.of("-100, when none is BAD, but limits do not rise (one may be as the one before); nothing is done then");
-        String[] limits = {"1 1 1", "1 2 3", "1 1 2", "1 2 2", "-1 0 1", "-2 -1.001 -1", "1.001 1 2", "1 2 1.999", "2 1 3", "3 2 1", "1 3 2", "0 -0.001 5", "-1 -2 0"};
+        String[] limits = {"1 1 1", "1 2 3", "1 1 2", "1 2 2", "-1 0 1", "-2 -1.001 -1", "1.001 1 2", "1 2 1.999", "2 1 3", "3 2 1", "1 3 2",
+            "0 -0.001 5", "-1 -2 0"};
         int rising = 6;
         for (int i = 0; i < limits.length; i++) {
             Desk desk = new Desk();
@@ -371,8 +376,10 @@ public final class Term5Test {
     private static void theMark() {
         Desk.of("h: \"X-Sieve\", 0, THE SCORE'S TEXT, a blank, the names of those that hold, in ORDER, with \",\" between, 0");
         Desk.due("none holds", verdict(Desk.with("limits 0 1 1")), Desk.packet('h', "X-Sieve\u00000.000 \0") + Desk.packet('a', ""));
-        Desk.due("one holds", verdict(Desk.with("limits 0 2 2", "count ONE 1", "count TWO 0")), Desk.packet('h', "X-Sieve\u00001.000 ONE\0") + Desk.packet('a', ""));
-        Desk.due("two hold, in order", verdict(Desk.with("limits 0 9 9", "count ONE 1", "count TWO 1", "priority TWO -1")), Desk.packet('h', "X-Sieve\u00002.000 TWO,ONE\0") + Desk.packet('a', ""));
+        Desk.due("one holds", verdict(Desk.with("limits 0 2 2", "count ONE 1", "count TWO 0")), Desk.packet('h', "X-Sieve\u00001.000 ONE\0")
+            + Desk.packet('a', ""));
+        Desk.due("two hold, in order", verdict(Desk.with("limits 0 9 9", "count ONE 1", "count TWO 1", "priority TWO -1")), Desk.packet('h',
+            "X-Sieve\u00002.000 TWO,ONE\0") + Desk.packet('a', ""));
         StringBuilder names = new StringBuilder();
         String[] lines = new String[25];
         for (int i = 0; i < 24; i++) {
@@ -387,17 +394,22 @@ public final class Term5Test {
         Desk.of("m: 1 in four bytes, the name of the first such one as it is, 0, \"[SPAM] \" and its unfolded value's bytes, 0");
         String h = Desk.packet('h', "X-Sieve\u00000.000 \0");
         String a = Desk.packet('a', "");
-        Desk.due("as it is", verdict(Desk.with("limits 0 1 1"), "X", "y", "sUBJect", " =?utf-8?Q?a?=\r\n b\u00e9\t", "Subject", "z"), h + Desk.packet('m', "\0\0\0\u0001sUBJect\0[SPAM] =?utf-8?Q?a?= b\u00e9\0") + a);
+        Desk.due("as it is", verdict(Desk.with("limits 0 1 1"), "X", "y", "sUBJect", " =?utf-8?Q?a?=\r\n b\u00e9\t", "Subject", "z"), h
+            + Desk.packet('m', "\0\0\0\u0001sUBJect\0[SPAM] =?utf-8?Q?a?= b\u00e9\0") + a);
         Desk.due("an empty one", verdict(Desk.with("limits 0 1 1"), "Subject", ""), h + Desk.packet('m', "\0\0\0\u0001Subject\0[SPAM] \0") + a);
-        Desk.due("of blanks alone", verdict(Desk.with("limits 0 1 1"), "SUBJECT", " \r\n\t"), h + Desk.packet('m', "\0\0\0\u0001SUBJECT\0[SPAM] \0") + a);
+        Desk.due("of blanks alone", verdict(Desk.with("limits 0 1 1"), "SUBJECT", " \r\n\t"), h + Desk.packet('m', "\0\0\0\u0001SUBJECT\0[SPAM] \0")
+            + a);
         String longest = "s".repeat(2038);
-        Desk.due("a length above 2,048", verdict(Desk.with("limits 0 1 1"), "Subject", longest), h + Desk.packet('m', "\0\0\0\u0001Subject\0[SPAM] " + longest + "\0") + a);
+        Desk.due("a length above 2,048", verdict(Desk.with("limits 0 1 1"), "Subject", longest), h + Desk.packet('m', "\0\0\0\u0001Subject\0[SPAM] "
+            + longest + "\0") + a);
     }
 
     private static void theScoresText() {
         Desk.of("THE TEXT: - if it is below 0, the whole thousands, ., three digits");
-        String[] scores = {"0", "0.001", "0.010", "0.100", "0.999", "1", "1.001", "9.999", "10", "10.01", "99.9", "100", "999.999", "-0", "-0.001", "-0.100", "-1", "-10.5", "-999.999"};
-        String[] texts = {"0.000", "0.001", "0.010", "0.100", "0.999", "1.000", "1.001", "9.999", "10.000", "10.010", "99.900", "100.000", "999.999", "0.000", "-0.001", "-0.100", "-1.000", "-10.500", "-999.999"};
+        String[] scores = {"0", "0.001", "0.010", "0.100", "0.999", "1", "1.001", "9.999", "10", "10.01", "99.9", "100", "999.999", "-0", "-0.001",
+            "-0.100", "-1", "-10.5", "-999.999"};
+        String[] texts = {"0.000", "0.001", "0.010", "0.100", "0.999", "1.000", "1.001", "9.999", "10.000", "10.010", "99.900", "100.000", "999.999",
+            "0.000", "-0.001", "-0.100", "-1.000", "-10.500", "-999.999"};
         for (int i = 0; i < scores.length; i++) {
             Desk low = Desk.with("limits -999.999 999.999 999.999", "count A 1", "score A " + scores[i]);
             if (!scores[i].equals("999.999")) {

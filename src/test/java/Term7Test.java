@@ -61,7 +61,8 @@ public final class Term7Test {
     }
 
     private static String reply(String query, int third, int fourth, int answers, String records) {
-        return query.substring(0, 2) + (char) third + (char) fourth + "\0\u0001" + (char) (answers / 256) + (char) (answers % 256) + "\0\0\0\0" + query.substring(12) + records;
+        return query.substring(0, 2) + (char) third + (char) fourth + "\0\u0001" + (char) (answers / 256) + (char) (answers % 256) + "\0\0\0\0"
+            + query.substring(12) + records;
     }
 
     private static String record(String start, String life, String data) {
@@ -88,7 +89,8 @@ public final class Term7Test {
             for (String zone : new String[] {"a", "a.b", "bl-1.example.org", "a".repeat(20) + "." + "b".repeat(19), "a.".repeat(19) + "bc"}) {
                 Desk desk = zones(zone);
                 desk.meet(0, address);
-                Desk.due("the query for " + address + " in " + zone, query(desk, 0), packet(1, n[3] + "." + n[2] + "." + n[1] + "." + n[0] + "." + zone));
+                Desk.due("the query for " + address + " in " + zone, query(desk, 0), packet(1, n[3] + "." + n[2] + "." + n[1] + "." + n[0] + "."
+                    + zone));
             }
         }
     }
@@ -160,7 +162,8 @@ public final class Term7Test {
         Desk.due("one is answered", desk.answer(reply(query(desk, 5), 128, 2, 0, "")), 1);
         desk.meet(0, "1.2.3.13");
         Desk.due("room for one", query(desk, 11), packet(13, "13.3.2.1.a"));
-        String[] names = {"0.3.2.1.a", "0.3.2.1.b", "0.3.2.1.c", "1.3.2.1.a", "1.3.2.1.b", "2.3.2.1.a", "2.3.2.1.b", "2.3.2.1.c", "10.3.2.1.a", "11.3.2.1.a", "12.3.2.1.a", "13.3.2.1.a"};
+        String[] names = {"0.3.2.1.a", "0.3.2.1.b", "0.3.2.1.c", "1.3.2.1.a", "1.3.2.1.b", "2.3.2.1.a", "2.3.2.1.b", "2.3.2.1.c", "10.3.2.1.a",
+            "11.3.2.1.a", "12.3.2.1.a", "13.3.2.1.a"};
         for (int k = 0; k < 12; k++) {
             Desk.due("the others stay, query " + k, query(desk, k), packet(k < 5 ? k + 1 : k + 2, names[k]));
         }
@@ -293,7 +296,8 @@ public final class Term7Test {
         taken("id 257", false, "\u0001\u0001" + good().substring(2));
         Desk desk = zones("a", "b");
         desk.meet(0, "1.2.3.4");
-        Desk.due("the id of one, the question of the other", desk.answer(query(desk, 0).substring(0, 2) + reply(query(desk, 1), 128, 0, 0, "").substring(2)), 0);
+        Desk.due("the id of one, the question of the other", desk.answer(query(desk, 0).substring(0, 2) + reply(query(desk, 1), 128, 0, 0,
+            "").substring(2)), 0);
         Desk.due("the younger one first", desk.answer(reply(query(desk, 1), 128, 0, 0, "")), 1);
         Desk.due("the older one stays", query(desk, 0), packet(1, "4.3.2.1.a"));
         desk.sieve.tick(5);
@@ -341,7 +345,8 @@ public final class Term7Test {
         String one = record(A, NINE, "\u007f\0\0\u0002");
         for (int n : new int[] {0, 1, 2, 9, 10, 11, 12, 255, 256, 257, 266}) {
             taken(n + " answers", n <= 10, reply(first(), 128, 0, n, one.repeat(Math.min(n, 100))));
-            taken(n + " answers told, one too few there", false, reply(first(), 128, 0, n == 0 ? 1 : n, one.repeat(Math.max(0, Math.min(n, 100) - 1))));
+            taken(n + " answers told, one too few there", false, reply(first(), 128, 0, n == 0 ? 1 : n, one.repeat(Math.max(0, Math.min(n,
+                100) - 1))));
             taken("of another code " + n + " answers told, none there", true, reply(first(), 128, 3, n, ""));
             taken("of code 5 " + n + " answers told, none there", true, reply(first(), 128, 5, n, ""));
         }
@@ -365,17 +370,20 @@ public final class Term7Test {
     private static void recordNames() {
         Desk.of("a name (labels of 1 to 63 bytes, and 0; or at their beginning or behind some of them two bytes, the first 192 or more, which end it)");
         String rest = record(A, NINE, "\u007f\0\0\u0002").substring(2);
-        String[] right = {"\0", "\u0001a\0", "\u003f" + "a".repeat(63) + "\0", "\u00c0\0", "\u00c0\u000c", "\u00ff\u00ff", "\u0001a\u00c0\u000c", "\u0001a\u003f" + "b".repeat(63) + "\u00ff\0", ("\u0001a").repeat(200) + "\0", "\u00c1\u00c0"};
+        String[] right = {"\0", "\u0001a\0", "\u003f" + "a".repeat(63) + "\0", "\u00c0\0", "\u00c0\u000c", "\u00ff\u00ff", "\u0001a\u00c0\u000c",
+            "\u0001a\u003f" + "b".repeat(63) + "\u00ff\0", ("\u0001a").repeat(200) + "\0", "\u00c1\u00c0"};
         for (String name : right) {
             taken("the name " + name, true, reply(first(), 128, 0, 1, name + rest));
         }
         for (int length = 64; length < 256; length++) {
             taken("two bytes, the first of them " + length, length >= 192, reply(first(), 128, 0, 1, (char) length + "\u000c" + rest));
-            taken("two bytes behind a label, the first of them " + length, length >= 192, reply(first(), 128, 0, 1, "\u0001a" + (char) length + "\u000c" + rest));
+            taken("two bytes behind a label, the first of them " + length, length >= 192, reply(first(), 128, 0, 1, "\u0001a" + (char) length
+                + "\u000c" + rest));
         }
         for (int length : new int[] {64, 65, 127, 128, 190, 191}) {
             taken("a label of " + length, false, reply(first(), 128, 0, 1, (char) length + "a".repeat(length) + "\0" + rest));
-            taken("a label of " + length + " behind another", false, reply(first(), 128, 0, 1, "\u0001a" + (char) length + "a".repeat(length) + "\0" + rest));
+            taken("a label of " + length + " behind another", false, reply(first(), 128, 0, 1, "\u0001a" + (char) length + "a".repeat(length) + "\0"
+                + rest));
         }
         for (String none : new String[] {"", "\u0001", "\u0001a", "\u0003ab", "\u00c0", "\u0001a\u00c0", "\u003f" + "a".repeat(62)}) {
             taken("not whole: " + none, false, reply(first(), 128, 0, 1, none));
@@ -430,14 +438,18 @@ public final class Term7Test {
         }
         listed("127.0.0.255", 1, 255, reply(first(), 128, 0, 1, record(A, NINE, "\u007f\0\0\u00ff")));
         listed("127.0.0.0", 1, 0, reply(first(), 128, 0, 1, record(A, NINE, "\u007f\0\0\0")));
-        listed("several", 1, 7, reply(first(), 128, 0, 3, record(A, NINE, "\u007f\0\0\u0001") + record(A, NINE, "\u007f\0\0\u0002") + record(A, NINE, "\u007f\0\0\u0006")));
-        String[] none = {"\u007e\0\0\u0002", "\u0080\0\0\u0002", "\u007f\u0001\0\u0002", "\u007f\0\u0001\u0002", "\u00ff\0\0\u0002", "\u007f\u00ff\0\u0002", "\u007f\0\u00ff\u0002", "", "\u0002", "\u007f\0\0", "\u007f\0\0\u0002\0", "\0\0\u007f\u0002"};
+        listed("several", 1, 7, reply(first(), 128, 0, 3, record(A, NINE, "\u007f\0\0\u0001") + record(A, NINE, "\u007f\0\0\u0002") + record(A, NINE,
+            "\u007f\0\0\u0006")));
+        String[] none = {"\u007e\0\0\u0002", "\u0080\0\0\u0002", "\u007f\u0001\0\u0002", "\u007f\0\u0001\u0002", "\u00ff\0\0\u0002",
+            "\u007f\u00ff\0\u0002", "\u007f\0\u00ff\u0002", "", "\u0002", "\u007f\0\0", "\u007f\0\0\u0002\0", "\0\0\u007f\u0002"};
         for (String data : none) {
             listed("data that do not count", 1, 4, reply(first(), 128, 0, 2, record(A, NINE, data) + record(A, NINE, "\u007f\0\0\u0004")));
         }
-        String[] types = {"\0\0\0\0\u0001", "\0\0\u0002\0\u0001", "\0\u0001\u0001\0\u0001", "\0\0\u0001\0\0", "\0\0\u0001\0\u0002", "\0\0\u0001\u0001\u0001", "\0\u0001\0\u0001\0", "\0\0\u0010\0\u0001"};
+        String[] types = {"\0\0\0\0\u0001", "\0\0\u0002\0\u0001", "\0\u0001\u0001\0\u0001", "\0\0\u0001\0\0", "\0\0\u0001\0\u0002",
+            "\0\0\u0001\u0001\u0001", "\0\u0001\0\u0001\0", "\0\0\u0010\0\u0001"};
         for (String start : types) {
-            listed("a type or class that does not count", 1, 4, reply(first(), 128, 0, 2, record(start, NINE, "\u007f\0\0\u0002") + record(A, NINE, "\u007f\0\0\u0004")));
+            listed("a type or class that does not count", 1, 4, reply(first(), 128, 0, 2, record(start, NINE, "\u007f\0\0\u0002") + record(A, NINE,
+                "\u007f\0\0\u0004")));
         }
         listed("ten answers", 1, 128, reply(first(), 128, 0, 10, record(A, NINE, "").repeat(9) + record(A, NINE, "\u007f\0\0\u0080")));
     }

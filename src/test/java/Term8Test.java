@@ -97,13 +97,15 @@ public final class Term8Test {
         tokens(judged("abc"), "abc");
         Desk.of("A token is its digest, its chars as utf-8");
         String chars = "\u0080\u07ff\u0800 \uffff\ufffd\ue000 \ud800\udc00\udbff\udfff\u0100 ab\u00e9";
-        tokens(judged(new String(chars.getBytes(java.nio.charset.StandardCharsets.UTF_8), java.nio.charset.StandardCharsets.ISO_8859_1), "Content-Type", "text/plain; charset=utf-8"), chars.split(" "));
+        tokens(judged(new String(chars.getBytes(java.nio.charset.StandardCharsets.UTF_8), java.nio.charset.StandardCharsets.ISO_8859_1),
+            "Content-Type", "text/plain; charset=utf-8"), chars.split(" "));
     }
 
     private static void wordChars() {
         Desk.of("WORDS of chars: rows of letters, digits, ', $, -, and chars above 127, as long as they can be, SMALL");
         for (int c = 1; c < 256; c++) {
-            boolean one = c >= 'a' && c <= 'z' || c >= 'A' && c <= 'Z' || c >= '0' && c <= '9' || c == '\'' || c == '$' || c == '-' || c > 127 && c != 160;
+            boolean one = c >= 'a' && c <= 'z' || c >= 'A' && c <= 'Z' || c >= '0' && c <= '9' || c == '\'' || c == '$' || c == '-' || c > 127
+                && c != 160;
             Desk desk = judged("xx" + (char) c + "yy", "Content-Type", "text/plain; charset=iso-8859-1");
             if (c == 13) {
                 tokens(desk, "xxyy");
@@ -129,14 +131,17 @@ public final class Term8Test {
         }
         // chars, not bytes: three euros are nine bytes, thirteen are too many
         String euro = "\u00e2\u0082\u00ac";
-        tokens(judged(euro.repeat(2) + " " + euro.repeat(3) + " " + euro.repeat(12) + " " + euro.repeat(13), "Content-Type", "text/plain; charset=utf-8"), "\u20ac".repeat(3), "\u20ac".repeat(12));
+        tokens(judged(euro.repeat(2) + " " + euro.repeat(3) + " " + euro.repeat(12) + " " + euro.repeat(13), "Content-Type",
+            "text/plain; charset=utf-8"), "\u20ac".repeat(3), "\u20ac".repeat(12));
     }
 
     private static void tokensInOrder() {
         Desk.of("Tokens, in order: s: and each word of the CHARS of the field subject; f: and each of the field from; each word of the text; u: and the HOST of each uri");
-        Desk desk = judged("text http://host.x/path more", "From", "me =?us-ascii?Q?you_there?=", "X", "none", "Subject", "=?us-ascii?Q?one?= =?us-ascii?Q?two?= end", "Subject", "second", "From", "third");
+        Desk desk = judged("text http://host.x/path more", "From", "me =?us-ascii?Q?you_there?=", "X", "none", "Subject",
+            "=?us-ascii?Q?one?= =?us-ascii?Q?two?= end", "Subject", "second", "From", "third");
         tokens(desk, "s:onetwo", "s:end", "f:you", "f:there", "text", "http", "host", "path", "more", "u:host.x");
-        tokens(judged("--q\n\none two\n--q\nContent-Type: a/b\n\nnone\n--q\nContent-Type: text/html\n\n<i>thr</i>ee &amp;four\n--q--", "Content-Type", "multipart/x; boundary=q"), "one", "two", "three", "four");
+        tokens(judged("--q\n\none two\n--q\nContent-Type: a/b\n\nnone\n--q\nContent-Type: text/html\n\n<i>thr</i>ee &amp;four\n--q--", "Content-Type",
+            "multipart/x; boundary=q"), "one", "two", "three", "four");
         tokens(judged("", "Subject", ""));
         tokens(judged("<a href=\"http://some.host\">", "Content-Type", "text/html"), "u:some.host");
     }
@@ -147,7 +152,8 @@ public final class Term8Test {
             String host = "h".repeat(length - 1) + "z";
             tokens(judged("<a href=\"http://" + host + "\">", "Content-Type", "text/html"), "u:" + host.substring(0, Math.min(40, length)));
         }
-        tokens(judged("<a href=\"http://" + "h".repeat(40) + "1\"><a href=\"http://" + "h".repeat(40) + "2\">", "Content-Type", "text/html"), "u:" + "h".repeat(40));
+        tokens(judged("<a href=\"http://" + "h".repeat(40) + "1\"><a href=\"http://" + "h".repeat(40) + "2\">", "Content-Type", "text/html"), "u:"
+            + "h".repeat(40));
     }
 
     private static void eachDigestOnce() {
